@@ -298,9 +298,6 @@ public final class OpensLikeThat {
         if (refusal != 0) {
             return refusal;
         }
-        if (found.firstRefused(shelf, state) >= 0) {
-            return 0;
-        }
         int bits = 0;
         for (int one = 0; one < people.size; one++) {
             if (canMakeAll(one, shelf, state)) {

@@ -3,10 +3,12 @@ public final class DeedTest {
     public static void main(String[] args) {
         make();
         makeTeaches();
+        eachCountsAlone();
         layAndLed();
         images();
         undoAndRedo();
         fortyChanges();
+        mixedChanges();
         deedsAreNoChanges();
         Check.end();
     }
@@ -72,6 +74,40 @@ public final class DeedTest {
         x.make(0, 0);
         x.make(0, 0);
         Check.due("NOT teaches nothing", 10, x.of(0, 4));
+    }
+
+    /** What one has done is not what another has done, nor another MOVE; an image keeps them all. */
+    private static void eachCountsAlone() {
+        OpensLikeThat x = new OpensLikeThat();
+        for (int m = 0; m < 12; m++) {
+            x.move(31, 3);
+        }
+        for (int one = 0; one < 6; one++) {
+            x.person(0, 2);
+        }
+        for (int one = 0; one < 6; one++) {
+            for (int m = 0; m < 12; m++) {
+                x.make(one, m);
+            }
+            Check.due("each MOVE once", 0, x.of(one, 4));
+        }
+        x.image();
+        for (int one = 0; one < 6; one++) {
+            for (int m = one; m < 12; m += 2) {
+                x.make(one, m);
+            }
+        }
+        Check.due("every other MOVE twice", 0x555, x.of(0, 4));
+        Check.due("every other MOVE twice", 0xaa0, x.of(5, 4));
+        x.back();
+        for (int one = 0; one < 6; one++) {
+            Check.due("each MOVE once again", 0, x.of(one, 4));
+            x.mend(one, 5, 3);
+            x.make(one, 11);
+            Check.due("twice of three times", 0, x.of(one, 4));
+            x.make(one, 11);
+            Check.due("three times", 2048, x.of(one, 4));
+        }
     }
 
     private static void layAndLed() {
@@ -201,6 +237,35 @@ public final class DeedTest {
             Check.due("redo", i, x.redo());
         }
         Check.due("all again", 45, x.of(0, 4));
+    }
+
+    /** Changes of many numbers, so many that the first are forgotten, back and on again. */
+    private static void mixedChanges() {
+        OpensLikeThat x = new OpensLikeThat();
+        for (int i = 0; i < 6; i++) {
+            x.move(1, 3);
+            x.person(0, 1);
+        }
+        int[][] told = new int[50][];
+        int[] was = new int[50];
+        for (int i = 0; i < 50; i++) {
+            int what = i * 7 % 6;
+            int number = i * 5 % 6;
+            int v = x.of(number, what) == 2 ? 1 : 2;
+            told[i] = new int[] {number, what, v};
+            was[i] = x.mend(number, what, v);
+        }
+        for (int i = 49; i >= 10; i--) {
+            Check.due("told " + i, told[i][2], x.of(told[i][0], told[i][1]));
+            Check.due("undo " + i, i - 10, x.undo());
+            Check.due("was " + i, was[i], x.of(told[i][0], told[i][1]));
+        }
+        Check.due("the first are forgotten", Beach.STATE, x.undo());
+        for (int i = 10; i < 50; i++) {
+            Check.due("was " + i, was[i], x.of(told[i][0], told[i][1]));
+            Check.due("redo " + i, 49 - i, x.redo());
+            Check.due("told " + i, told[i][2], x.of(told[i][0], told[i][1]));
+        }
     }
 
     private static void deedsAreNoChanges() {

@@ -88,6 +88,9 @@ public final class MovesTest {
         Check.due("count", 4, x.count(0));
         Beach.bytes(x, 2);
         Check.due("an empty row", 0, x.moves(2, 0, 1));
+        Beach.bytes(x, 2, 0, 0, 1, 3, 3, 5);
+        Check.due("a five up to the end", 1, x.moves(2, 1, 12));
+        Check.due("its HARD", 5, x.of(4, 2));
 
         int[] good = {3, 1, 1, 3, 9};
         int[][] wrong = {{-1, 4}, {0, 3, -1}, {-1, 2, 4}, {-1, 4}, {-1, 10}};

@@ -224,6 +224,13 @@ public final class WaysTest {
         x.move(12, 3);
         Check.due("two CLOTHS: the FOLD", 3, x.oneWay(0));
         Check.due("FOLDS 2 alone are left", 18, x.oneWay(1));
+        OpensLikeThat y = Beach.wheels();
+        int[] again = {1, 11, 21, 31};
+        for (int wb : again) {
+            y.move(wb, 3);
+        }
+        Check.due("each MOVE twice: the least", 0, y.oneWay(0));
+        Check.due("each MOVE twice: all can", 54, y.oneWay(1));
     }
 
     private static void wrongPs() {
