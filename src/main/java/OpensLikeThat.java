@@ -1191,11 +1191,21 @@ public final class OpensLikeThat {
         /** Behind weave() for the one who opens them. */
         void look(int shelf) {
             web.measure(A_CHAIR, true, NO_MOVE);
-            chairs = shelves.has(shelf) && shelves.isBytes(shelf) ? shelves.held[shelf] : 0;
+            chairs = chairsOn(shelf);
             for (int k = 0; k < chairs; k++) {
                 int far = web.farFrom((int) shelves.at(shelf, k));
                 times[k] = far < NEVER ? far : IS_LEFT;
             }
+        }
+
+        // A byte that is no STATE is no chair, not one that is left: it ends the ROW.
+        private int chairsOn(int shelf) {
+            int length = shelves.isBytes(shelf) ? Math.min(Shelves.LONGEST, shelves.held[shelf]) : 0;
+            int how = 0;
+            while (how < length && isState((int) shelves.at(shelf, how))) {
+                how++;
+            }
+            return how;
         }
 
         void rememberAsOther() {

@@ -7,6 +7,7 @@ public final class LearnersTest {
         bestFirst();
         tide();
         two();
+        chairsEnd();
         judgeAndEnds();
         who();
         begun();
@@ -98,8 +99,8 @@ public final class LearnersTest {
         Check.due("no such", Beach.BAD, x.opens(0, 0, -3));
         Check.due("the other, DEFT 9: 1 each", 8, x.opens(0, 1, -1));
         x.mend(1, 0, 0);
-        Beach.bytes(x, 0, 12, 0, 54, -1, 18, 127);
-        Check.due("left: no way, or no STATE", 4, x.opens(0, 0, -2));
+        Beach.bytes(x, 0, 12, 0, 53, 18);
+        Check.due("left: no way", 2, x.opens(0, 0, -2));
         Check.due("left take none", 12, x.opens(0, 0, -1));
         Check.due("left are not open", 2, x.opens(0, 0, 9999));
         Check.due("the first", 1, x.opens(0, 0, 8));
@@ -118,13 +119,16 @@ public final class LearnersTest {
 
     private static void bestFirst() {
         OpensLikeThat x = beach();
-        Beach.bytes(x, 0, 7, 0, 60, 36, 18);
+        Beach.bytes(x, 0, 7, 0, 36, 18);
         int[] by = {0, 3, 4, 11, 12, 31, 32, 9999};
         int[] due = {1, 1, 2, 2, 3, 3, 4, 4};
         for (int i = 0; i < by.length; i++) {
             Check.due("open by " + by[i], due[i], x.bestFirst(0, 0, by[i]));
         }
         Check.due("in order it is not so", 0, x.opens(0, 0, 12));
+        x.mend(1, 0, 0);
+        Beach.bytes(x, 0, 53, 0, 12, 36, 18);
+        Check.due("two left are not open", 3, x.bestFirst(0, 0, 12));
         Check.due("no such", Beach.BAD, x.bestFirst(0, 0, -1));
         Check.due("too late", Beach.BAD, x.bestFirst(0, 0, 10000));
         Beach.bytes(x, 0);
@@ -139,7 +143,8 @@ public final class LearnersTest {
         Beach.bytes(x, 0, 18, 18, 0, 36);
         Check.due("in time to the second", Beach.NOT, x.tide(0, 0, 6));
         Check.due("the third is late", 2, x.tide(0, 0, 5));
-        Beach.bytes(x, 0, 36, 60, 36);
+        x.mend(1, 0, 0);
+        Beach.bytes(x, 0, 36, 53, 36);
         Check.due("one left is late", 1, x.tide(0, 0, 999));
         Beach.bytes(x, 0);
         Check.due("no chairs", Beach.NOT, x.tide(0, 0, 1));
@@ -171,6 +176,42 @@ public final class LearnersTest {
         Beach.bytes(x, 0, 18, 0, 0, 18);
         Beach.law(x, "d=9?m;4");
         Check.due("the other leaves all behind the first", 24 - 4, x.two(0, 1));
+    }
+
+    /** The first byte that is no STATE ends the chairs: those behind it are none, too. */
+    private static void chairsEnd() {
+        OpensLikeThat x = beach();
+        for (int none : new int[] {-128, -1, 54, 55, 56, 100, 127}) {
+            String told = " behind " + none;
+            Beach.bytes(x, 0, 0, 18, none, 36, 18);
+            Check.due("opens" + told, 2, x.opens(0, 0, 9999));
+            Check.due("opens -1" + told, 12, x.opens(0, 0, -1));
+            Check.due("opens -2" + told, 0, x.opens(0, 0, -2));
+            Check.due("bestFirst" + told, 2, x.bestFirst(0, 0, 9999));
+            Check.due("bestFirst by 4" + told, 1, x.bestFirst(0, 0, 4));
+            Check.due("tide" + told, Beach.NOT, x.tide(0, 0, 8));
+            Check.due("two" + told, 12 - 8, x.two(0, 1));
+            Beach.bytes(x, 0, none, 36);
+            Check.due("opens at once" + told, 0, x.opens(0, 0, 0));
+            Check.due("opens -1 at once" + told, 0, x.opens(0, 0, -1));
+            Check.due("opens -2 at once" + told, 0, x.opens(0, 0, -2));
+            Check.due("bestFirst at once" + told, 0, x.bestFirst(0, 0, 0));
+            Check.due("tide at once" + told, Beach.NOT, x.tide(0, 0, 1));
+            Check.due("two at once" + told, 0, x.two(0, 1));
+        }
+        Beach.bytes(x, 0, 53, 0, 53);
+        Check.due("53 and 0 are STATES", 3, x.opens(0, 0, 9999));
+        // What a longer ROW had behind its end is not there any more.
+        Beach.bytes(x, 0, 36, 54, 36);
+        Beach.bytes(x, 0, 36, 36, 36);
+        Check.due("all three", 3, x.opens(0, 0, 0));
+        Check.due("that one not put is STATE 0", 8, restOfRow(x));
+    }
+
+    private static int restOfRow(OpensLikeThat x) {
+        x.row(0, 0, 2);
+        x.put(0, 0, 36);
+        return x.opens(0, 0, -1);
     }
 
     private static void judgeAndEnds() {

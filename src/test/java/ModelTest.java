@@ -446,8 +446,14 @@ public final class ModelTest {
     private static void rows() {
         int p = upTo(people);
         int[][] secs = between(p, knows[p], true, -1, false);
-        int[] r = row(60, 54);
-        Beach.bytes(x, 0, r);
+        attended(p, secs, row(60, 54));
+        attended(p, secs, random.ints(upTo(61), 0, 54).toArray());
+        found(p);
+    }
+
+    private static void attended(int p, int[][] secs, int[] told) {
+        Beach.bytes(x, 0, told);
+        int[] r = Arrays.copyOf(told, statesAhead(told));
         int[] times = timesOf(secs, r);
         int by = upTo(200);
         int now = 0;
@@ -484,13 +490,20 @@ public final class ModelTest {
             }
             Check.due("two", Math.max(0, now - Math.max(free[0], free[1])), x.two(0, 10 * p + other));
         }
-        found(p);
+    }
+
+    private static int statesAhead(int[] told) {
+        int how = 0;
+        while (how < told.length && told[how] >= 0 && told[how] <= 53) {
+            how++;
+        }
+        return how;
     }
 
     private static int[] timesOf(int[][] secs, int[] r) {
         int[] times = new int[r.length];
         for (int k = 0; k < r.length; k++) {
-            int far = r[k] < 0 || r[k] > 53 ? FAR : toAim(secs, r[k], 54);
+            int far = toAim(secs, r[k], 54);
             times[k] = far >= FAR ? -1 : far;
         }
         return times;
