@@ -10,6 +10,16 @@ public final class DeedTest {
         fortyChanges();
         mixedChanges();
         deedsAreNoChanges();
+        lastOneLastMove();
+        doneLearnsTimes();
+        chairsComeTo();
+        secondsPass();
+        imageOfNothing();
+        whoCameSince();
+        imageKeepsAll();
+        thirtyNineToFortyOne();
+        behindAnUndo();
+        eachNumberUndone();
         Check.end();
     }
 
@@ -285,5 +295,279 @@ public final class DeedTest {
         Check.due("a deed does not end DONE AGAIN", 0, x.redo());
         Check.due("KNOWS as told", 4, x.of(0, 4));
         Check.due("the STATE stays", 7, x.of(0, 8));
+    }
+
+    /** 12 MOVES and 6 PEOPLE: the last of each. */
+    private static void lastOneLastMove() {
+        OpensLikeThat x = Beach.full();
+        Check.due("the last one, the last MOVE", 1, x.make(5, 11));
+        Check.due("it KNOWS that alone", 2048, x.of(5, 4));
+        for (int one = 0; one < 5; one++) {
+            Check.due("another does not", 0, x.of(one, 4));
+        }
+        Check.due("no MOVE 12", Beach.BAD, x.make(5, 12));
+        Check.due("no one 6", Beach.BAD, x.make(6, 11));
+        Check.due("nobody", Beach.BAD, x.make(-1, 11));
+        leds("one MOVE of 4 seconds", x, 1, 4, 0, 0);
+        Check.due("the first of each", 19, x.make(0, 0));
+        Check.due("it KNOWS that alone", 1, x.of(0, 4));
+    }
+
+    /** "a MOVE done LEARNS times by one it KNOWS then", 1 .. 9. */
+    private static void doneLearnsTimes() {
+        for (int learns = 1; learns <= 9; learns++) {
+            OpensLikeThat x = Beach.full();
+            x.mend(5, 5, learns);
+            for (int i = 1; i <= learns + 1; i++) {
+                Check.due("turned", i % 2, x.make(5, 11));
+                Check.due("done " + i + " times of " + learns, i >= learns ? 2048 : 0, x.of(5, 4));
+                Check.due("4 seconds each, 2 if it KNEW it ahead", 4 * i - 2 * Math.max(0, i - learns), x.led(1));
+            }
+        }
+    }
+
+    /** "CHAIRS come to (that were none ahead)": by MOVES. */
+    private static void chairsComeTo() {
+        OpensLikeThat x = Beach.wheels();
+        x.person(0, 1);
+        x.lay(18);
+        Check.due("to 36", 36, x.make(0, 0));
+        leds("come to", x, 1, 4, 1, 1);
+        x.make(0, 2);
+        x.make(0, 2);
+        x.make(0, 2);
+        Check.due("36, 38, 40, 36: CHAIRS all", 1, x.led(2));
+        x.make(0, 3);
+        Check.due("37 is none", 1, x.led(2));
+        x.make(0, 3);
+        Check.due("36 again", 2, x.led(2));
+        x.make(0, 1);
+        x.make(0, 1);
+        Check.due("48: none yet", 2, x.led(2));
+        x.make(0, 1);
+        Check.due("and again", 3, x.led(2));
+        x.lay(40);
+        x.lay(0);
+        x.lay(38);
+        Check.due("laid into one is no MOVE", 3, x.led(2));
+        x.make(0, 2);
+        Check.due("it was one ahead", 3, x.led(2));
+        x.move(32, 3);
+        x.make(0, 4);
+        Check.due("a MOVE that stays", 3, x.led(2));
+        leds("all", x, 11, x.led(1), 3, 4);
+    }
+
+    /** "its seconds pass": 1 to 99; none by NOT. */
+    private static void secondsPass() {
+        OpensLikeThat x = Beach.wheels();
+        x.person(0, 9);
+        int[] law = {1, 99, 100, 9999, 7, 0, -1};
+        int[] due = {1, 100, 199, 298, 305, 305, 305};
+        for (int i = 0; i < law.length; i++) {
+            Beach.law(x, String.valueOf(law[i]));
+            Check.due("by " + law[i], law[i] > 0 ? (i + 1) % 2 : Beach.NOT, x.make(0, 3));
+            Check.due("seconds", due[i], x.led(1));
+            Check.due("MOVES", Math.min(5, i + 1), x.led(0));
+        }
+        Check.due("the STATE stays", 1, x.of(0, 8));
+        // What is asked for the way there is the STATE ahead: FOLD 2 takes 3, FOLD 0 takes 1.
+        Beach.law(x, "f+1");
+        x.lay(36);
+        x.make(0, 0);
+        Check.due("from FOLD 2", 308, x.led(1));
+        x.make(0, 0);
+        Check.due("from FOLD 0", 309, x.led(1));
+    }
+
+    /** "STATE: there is none"; AN IMAGE of a new object. */
+    private static void imageOfNothing() {
+        OpensLikeThat x = new OpensLikeThat();
+        Check.due("none", Beach.STATE, x.back());
+        Check.due("of nothing", 0, x.image());
+        x.lay(9);
+        x.move(1, 3);
+        x.person(0, 1);
+        x.make(0, 0);
+        Check.due("back to nothing made", 0, x.back());
+        leds("nothing made", x, 0, 0, 0, 0);
+        Check.due("it lies shut", 0, x.of(0, 8));
+        Check.due("MOVES stay", 1, x.count(0));
+        Check.due("PEOPLE stay", 1, x.count(1));
+        Check.due("who came since KNOWS nothing", 0, x.of(0, 4));
+        Check.due("again", 0, x.back());
+    }
+
+    /** "PEOPLE that came since: KNOW nothing": by deed or by mend; what they did is not kept. */
+    private static void whoCameSince() {
+        OpensLikeThat x = Beach.wheels();
+        Beach.people(x, 3);
+        x.mend(0, 4, 5);
+        x.mend(2, 4, 4095);
+        x.image();
+        Beach.people(x, 3);
+        for (int one = 0; one < 6; one++) {
+            x.mend(one, 4, 7 << one);
+        }
+        x.mend(5, 5, 2);
+        x.make(5, 3);
+        x.back();
+        int[] due = {5, 0, 4095, 0, 0, 0};
+        for (int one = 0; one < 6; one++) {
+            Check.due("KNOWS of " + one, due[one], x.of(one, 4));
+        }
+        x.make(5, 3);
+        Check.due("done once, not twice", 0, x.of(5, 4));
+        x.make(5, 3);
+        Check.due("done twice", 8, x.of(5, 4));
+        x.image();
+        x.mend(5, 4, 0);
+        x.back();
+        Check.due("now it was there", 8, x.of(5, 4));
+    }
+
+    /** "keeps the STATE, KNOWS and how often each was done, what LED tells": and nothing else. */
+    private static void imageKeepsAll() {
+        OpensLikeThat x = Beach.full();
+        x.mend(5, 5, 3);
+        x.make(5, 11);
+        x.make(5, 11);
+        x.make(0, 0);
+        x.lay(53);
+        Check.due("MOVES made", 3, x.image());
+        x.make(5, 11);
+        x.lay(18);
+        x.make(4, 0);
+        x.mend(3, 2, 9);
+        x.mend(3, 3, 9);
+        x.mend(3, 0, 0);
+        Beach.law(x, "5");
+        x.feed('1');
+        x.keep(0, 7);
+        x.act(7, 3, 5);
+        leds("since", x, 5, 20, 1, 2);
+        int changes = x.count(3);
+        Check.due("MOVES made", 3, x.back());
+        leds("as it was", x, 3, 12, 0, 1);
+        Check.due("STATE", 53, x.of(0, 8));
+        Check.due("KNOWS", 0, x.of(5, 4));
+        Check.due("KNOWS", 1, x.of(0, 4));
+        Check.due("KNOWS", 0, x.of(4, 4));
+        Check.due("CHANGES stay", changes, x.count(3));
+        Check.due("HARD stays", 9, x.of(3, 2));
+        Check.due("DEFT stays", 9, x.of(3, 3));
+        Check.due("FROM stays", 0, x.of(3, 0));
+        Check.due("THE LAW stays", 5, x.takes(5, 0, 0));
+        Check.due("THE TAPE stays", 1, x.count(2));
+        Check.due("SHELVES stay", 7, x.taken(0, 7));
+        Check.due("THE TRACE stays", 14, x.count(5));
+        x.make(5, 11);
+        Check.due("done twice and once", 2048, x.of(5, 4));
+        Check.due("back as often as one likes", 3, x.back());
+        Check.due("STATE", 53, x.of(0, 8));
+        x.lay(0);
+        x.make(5, 7);
+        Check.due("a later image", 4, x.image());
+        x.lay(9);
+        Check.due("takes the place of the first", 4, x.back());
+        Check.due("its STATE", 0, x.of(0, 8));
+    }
+
+    /** "40 at most are kept". */
+    private static void thirtyNineToFortyOne() {
+        for (int n = 38; n <= 42; n++) {
+            OpensLikeThat x = new OpensLikeThat();
+            x.person(0, 1);
+            for (int i = 1; i <= n; i++) {
+                x.mend(0, 4, i);
+            }
+            int kept = Math.min(40, n);
+            Check.due("kept of " + n, kept, x.count(3));
+            Check.due("undo", kept - 1, x.undo());
+            Check.due("redo", 0, x.redo());
+            for (int i = 0; i < kept; i++) {
+                Check.due("undo of " + n, kept - 1 - i, x.undo());
+            }
+            Check.due("no more of " + n, Beach.STATE, x.undo());
+            Check.due("the number ahead of those kept", n - kept, x.of(0, 4));
+            for (int i = 0; i < kept; i++) {
+                Check.due("redo of " + n, kept - 1 - i, x.redo());
+                Check.due("number", n - kept + i + 1, x.of(0, 4));
+            }
+            Check.due("no more of " + n, Beach.STATE, x.redo());
+        }
+    }
+
+    /** "DONE AGAIN (as long as no other came behind)": another takes the place of all that were UNDONE. */
+    private static void behindAnUndo() {
+        OpensLikeThat x = new OpensLikeThat();
+        x.person(0, 1);
+        for (int i = 1; i <= 45; i++) {
+            x.mend(0, 4, i);
+        }
+        for (int i = 0; i < 10; i++) {
+            x.undo();
+        }
+        Check.due("30 stand", 30, x.count(3));
+        Check.due("the same number is none", 35, x.mend(0, 4, 35));
+        Check.due("BAD is none", Beach.BAD, x.mend(0, 4, 4096));
+        Check.due("of another number, BAD", Beach.BAD, x.mend(1, 4, 1));
+        Check.due("9 more may be done again", 9, x.redo());
+        Check.due("another", 36, x.mend(0, 4, 100));
+        Check.due("none may be done again", Beach.STATE, x.redo());
+        Check.due("32 stand", 32, x.count(3));
+        Check.due("undo of the other", 31, x.undo());
+        Check.due("as it was", 36, x.of(0, 4));
+        Check.due("undo of one ahead", 30, x.undo());
+        Check.due("as it was", 35, x.of(0, 4));
+        Check.due("again", 1, x.redo());
+        Check.due("and the other", 0, x.redo());
+        Check.due("as told", 100, x.of(0, 4));
+        for (int i = 0; i < 8; i++) {
+            x.mend(0, 4, 200 + i);
+        }
+        Check.due("40 stand", 40, x.count(3));
+        x.mend(0, 4, 300);
+        Check.due("40 stand, the first is forgotten", 40, x.count(3));
+        for (int i = 39; i >= 0; i--) {
+            Check.due("undo", i, x.undo());
+        }
+        Check.due("the first that is kept", 6, x.of(0, 4));
+        x.mend(0, 5, 9);
+        Check.due("another behind all that were UNDONE", 1, x.count(3));
+        Check.due("none may be done again", Beach.STATE, x.redo());
+    }
+
+    /** "all numbers of mend()": undone and done again they count as if they were told. */
+    private static void eachNumberUndone() {
+        OpensLikeThat x = Beach.full();
+        x.mend(11, 0, 1);
+        x.mend(11, 1, 2);
+        x.mend(11, 2, 9);
+        x.mend(5, 3, 9);
+        x.mend(5, 4, 2048);
+        x.mend(5, 5, 3);
+        Check.due("FROM and NEEDS", Beach.NOT, x.leads(11, 0));
+        Check.due("HARD, DEFT, KNOWS", 7, x.takes(5, 11, 0));
+        for (int i = 0; i < 6; i++) {
+            x.undo();
+        }
+        Check.due("FROM and NEEDS undone", 1, x.leads(11, 0));
+        Check.due("HARD, DEFT, KNOWS undone", 4, x.takes(5, 11, 0));
+        x.make(5, 11);
+        Check.due("LEARNS undone", 2048, x.of(5, 4));
+        x.redo();
+        Check.due("FROM again", Beach.NOT, x.leads(11, 0));
+        Check.due("FROM again", 36, x.leads(11, 37));
+        x.redo();
+        Check.due("NEEDS again", Beach.NOT, x.leads(11, 1));
+        Check.due("NEEDS again", 36, x.leads(11, 37));
+        x.redo();
+        Check.due("HARD again, it KNOWS it by its deed", 10, x.takes(5, 11, 0));
+        x.redo();
+        Check.due("DEFT again", 7, x.takes(5, 11, 0));
+        Check.due("two more", 1, x.redo());
+        Check.due("the last", 0, x.redo());
+        Check.due("LEARNS again", 3, x.of(5, 5));
     }
 }

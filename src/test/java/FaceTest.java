@@ -44,7 +44,9 @@ public final class FaceTest {
         for (Class<?> inside : c.getDeclaredClasses()) {
             Check.due(inside + " is static", 1, Modifier.isStatic(inside.getModifiers()) ? 1 : 0);
             for (Method m : inside.getDeclaredMethods()) {
-                closed.add(m);
+                if (Modifier.isPrivate(m.getModifiers())) {
+                    closed.add(m);
+                }
             }
         }
         for (Member m : closed) {

@@ -13,6 +13,21 @@ public final class LearnersTest {
         begun();
         drawn();
         refusals();
+        learnOfSixty();
+        learnAsOftenAsItLearns();
+        showTheTwelfth();
+        showUpToThree();
+        secondsAreMet();
+        opensByTheLastSecond();
+        leftAreNotOpen();
+        bestFirstOfSixty();
+        tideToTheSecond();
+        twoShare();
+        twoLeave();
+        foundOfSixty();
+        whoOfSix();
+        begunFromOne();
+        drawnAsTold();
         Check.end();
     }
 
@@ -347,5 +362,425 @@ public final class LearnersTest {
             Check.due("begun BAD first", Beach.BAD, x.begun(shelf, 54, 0));
             Check.due("begun BAD first", Beach.BAD, x.begun(shelf, 0, 2));
         }
+    }
+
+    /** A ROW of 0 and of 60 elements: the last counts; the first that is no MOVE ends it. */
+    private static void learnOfSixty() {
+        OpensLikeThat x = Beach.full();
+        x.mend(5, 5, 2);
+        int[] row = Beach.times(60, 0);
+        row[0] = 11;
+        row[59] = 11;
+        Beach.bytes(x, 5, row);
+        Check.due("the 60th is the second 11", 2049, x.learn(5, 5));
+        Check.due("the shelf beside it is of 0", 1, x.learn(4, 5));
+        x.put(5, 58, 12);
+        Check.due("no MOVE 12: what is behind is not seen", 1, x.learn(5, 5));
+        Beach.bytes(x, 5);
+        Check.due("nothing seen", 0, x.learn(5, 5));
+        x.mend(5, 4, 4095);
+        Check.due("it KNOWS all", 4095, x.learn(5, 5));
+        for (int none : new int[] {12, 13, 127, -1, -128}) {
+            Beach.bytes(x, 3, 0, 0, none, 1, 1);
+            x.mend(5, 4, 4);
+            Check.due("as far as such there are: " + none, 5, x.learn(3, 5));
+        }
+        Beach.bytes(x, 3, 0, 11, 1, 0, 11, 0);
+        Check.due("0 and 11, each twice, and 2", 2053, x.learn(3, 5));
+        x.mend(5, 4, 2049);
+        Check.due("what it KNOWS it does not lose by seeing it", 2049, x.learn(3, 5));
+        OpensLikeThat y = new OpensLikeThat();
+        y.person(0, 1);
+        y.mend(0, 4, 4095);
+        y.row(0, 0, 60);
+        Check.due("no MOVES, but it KNOWS them", 4095, y.learn(0, 0));
+        y.mend(0, 4, 0);
+        Check.due("no MOVES to see", 0, y.learn(0, 0));
+    }
+
+    /** "each seen LEARNS times or more", 1 .. 9. */
+    private static void learnAsOftenAsItLearns() {
+        OpensLikeThat x = Beach.wheels();
+        x.person(0, 1);
+        for (int learns = 1; learns <= 9; learns++) {
+            x.mend(0, 5, learns);
+            Beach.bytes(x, 0, Beach.times(learns - 1, 3));
+            Check.due("seen once less than " + learns, 0, x.learn(0, 0));
+            Beach.bytes(x, 0, Beach.times(learns, 3));
+            Check.due("seen " + learns + " times", 8, x.learn(0, 0));
+            Beach.bytes(x, 0, Beach.times(learns + 1, 3));
+            Check.due("seen once more than " + learns, 8, x.learn(0, 0));
+        }
+    }
+
+    /** 12 MOVES, of which the last alone leads: it is the one to be shown, however often one must see it. */
+    private static void showTheTwelfth() {
+        OpensLikeThat x = new OpensLikeThat();
+        for (int i = 0; i < 11; i++) {
+            x.move(32, 3);
+        }
+        x.move(2, 3);
+        for (int i = 0; i < 6; i++) {
+            x.person(0, 9);
+        }
+        Check.due("4 seconds without", 0, x.show(600, 4, 0));
+        Check.due("2 if it KNOWS it", 1, x.show(600, 2, 0));
+        Check.due("which", 2048, x.show(600, 2, 1));
+        Check.due("1 is too few", Beach.NOT, x.show(600, 1, 0));
+        x.mend(5, 4, 2048);
+        Check.due("it KNOWS it: none", 0, x.show(600, 2, 1));
+        Check.due("another does not", 2048, x.show(500, 2, 1));
+        x.mend(5, 4, 2047);
+        Check.due("it KNOWS all others", 2048, x.show(600, 3, 1));
+        Check.due("a CHAIR, no seconds", 0, x.show(640, 0, 0));
+        Check.due("no CHAIR, no seconds", Beach.NOT, x.show(600, 0, 1));
+        Check.due("none ever, 999 seconds", Beach.NOT, x.show(601, 999, 0));
+        Check.due("none ever, 999 seconds", Beach.NOT, x.show(601, 999, 1));
+    }
+
+    /** "how many unlike ones (0 .. 3)": five MOVES that one cannot make till it KNOWS them. */
+    private static void showUpToThree() {
+        OpensLikeThat x = new OpensLikeThat();
+        int[] wb = {1, 1, 11, 11, 31};
+        int[] from = {0, 1, 1, 2, 1};
+        for (int i = 0; i < wb.length; i++) {
+            x.move(wb[i], from[i]);
+        }
+        x.person(0, 5);
+        Beach.law(x, "k");
+        int[] ps = {136, 137, 119, 101, 131, 107};
+        int[] many = {0, 1, 2, 3, 3, Beach.NOT};
+        int[] which = {0, 16, 18, 19, 26, Beach.NOT};
+        for (int i = 0; i < ps.length; i++) {
+            Check.due("how many from " + ps[i], many[i], x.show(ps[i], 999, 0));
+            Check.due("which from " + ps[i], which[i], x.show(ps[i], 999, 1));
+            if (many[i] > 0) {
+                Check.due("to the second from " + ps[i], many[i], x.show(ps[i], many[i], 0));
+                Check.due("a second less from " + ps[i], Beach.NOT, x.show(ps[i], many[i] - 1, 0));
+            }
+        }
+        Check.due("CLOTH 1, SIDE 0: four are too many", Beach.NOT, x.show(106, 999, 1));
+        x.mend(0, 4, 1);
+        Check.due("it KNOWS one of the four", 3, x.show(106, 999, 0));
+        Check.due("the other three", 14, x.show(106, 999, 1));
+        Check.due("still four", Beach.NOT, x.show(107, 999, 1));
+        // FOLD by 2 at once, too.
+        x.mend(0, 4, 0);
+        x.move(2, 0);
+        Check.due("one is fewer than two", 32, x.show(100, 999, 1));
+        x.move(2, 0);
+        Check.due("of like ones the least", 32, x.show(100, 999, 1));
+        x.mend(5, 1, 2);
+        Check.due("but that one MAY be made", 64, x.show(100, 999, 1));
+    }
+
+    /** Ways of 99 seconds a MOVE: the most that a chair takes. */
+    private static OpensLikeThat slow() {
+        OpensLikeThat x = Beach.wheels();
+        x.person(0, 1);
+        x.person(0, 1);
+        Beach.law(x, "99");
+        return x;
+    }
+
+    private static void secondsAreMet() {
+        OpensLikeThat x = slow();
+        Check.due("five MOVES", 495, x.way(107, 54, 1));
+        Check.due("by 495", 0, x.show(107, 495, 0));
+        Check.due("by 494", Beach.NOT, x.show(107, 494, 0));
+        Beach.bytes(x, 0, 7);
+        Check.due("open by 495", 1, x.opens(0, 0, 495));
+        Check.due("open by 494", 0, x.opens(0, 0, 494));
+        Check.due("best by 495", 1, x.bestFirst(0, 0, 495));
+        Check.due("best by 494", 0, x.bestFirst(0, 0, 494));
+        Check.due("in time by 495", Beach.NOT, x.tide(0, 0, 495));
+        Check.due("late by 494", 0, x.tide(0, 0, 494));
+        Check.due("all takes", 495, x.opens(0, 0, -1));
+    }
+
+    /** "by second s (0 .. 9999)": 20 chairs of 495 seconds and one of 99 are 9999. */
+    private static void opensByTheLastSecond() {
+        OpensLikeThat x = slow();
+        int[] row = Beach.times(22, 7);
+        row[20] = 18;
+        row[21] = 18;
+        Beach.bytes(x, 0, row);
+        Check.due("21 by 9999", 21, x.opens(0, 0, 9999));
+        Check.due("20 by 9998", 20, x.opens(0, 0, 9998));
+        Check.due("none by 0", 0, x.opens(0, 0, 0));
+        Check.due("all takes more", 10098, x.opens(0, 0, -1));
+        Check.due("none left", 0, x.opens(0, 0, -2));
+        Check.due("best by 9999: the short ones first", 21, x.bestFirst(0, 0, 9999));
+        Beach.bytes(x, 0, Beach.times(60, 7));
+        Check.due("60 by 9999", 20, x.opens(0, 0, 9999));
+        Check.due("60 by 9900", 20, x.opens(0, 0, 9900));
+        Check.due("60 by 9899", 19, x.opens(0, 0, 9899));
+        Check.due("60 take", 29700, x.opens(0, 0, -1));
+        Beach.law(x, "1");
+        Check.due("60 by 300", 60, x.opens(0, 0, 300));
+        Check.due("60 by 299", 59, x.opens(0, 0, 299));
+        Beach.bytes(x, 0, Beach.times(60, 36));
+        Check.due("60 CHAIRS by 0", 60, x.opens(0, 0, 0));
+        Check.due("60 CHAIRS take", 0, x.opens(0, 0, -1));
+        Beach.bytes(x, 0, 36, 18, 36);
+        Check.due("in order: the last one waits", 1, x.opens(0, 0, 0));
+        Check.due("in order: the last one is next", 3, x.opens(0, 0, 1));
+    }
+
+    /** "one that cannot be is left, 0 seconds". */
+    private static void leftAreNotOpen() {
+        OpensLikeThat x = slow();
+        x.mend(0, 0, 0);
+        // FOLD from 0 alone: 0 comes to FOLD 1 and no further; 36 and 41 are or come to be CHAIRS.
+        Beach.bytes(x, 0, 0, 41, 18, 36, 53);
+        Check.due("left", 2, x.opens(0, 0, -2));
+        Check.due("left take none", 99 + 99 * 2, x.opens(0, 0, -1));
+        Check.due("open by 0", 0, x.opens(0, 0, 0));
+        Check.due("open by 99", 2, x.opens(0, 0, 99));
+        Check.due("open by 297", 3, x.opens(0, 0, 297));
+        Check.due("best by 0", 1, x.bestFirst(0, 0, 0));
+        Check.due("best by 98", 1, x.bestFirst(0, 0, 98));
+        Check.due("best by 99", 2, x.bestFirst(0, 0, 99));
+        Check.due("best by 9999", 3, x.bestFirst(0, 0, 9999));
+        Check.due("one that is left is late", 0, x.tide(0, 0, 999));
+        Beach.bytes(x, 0, 41, 36, 0);
+        Check.due("one that is left is late, though it takes none", 2, x.tide(0, 0, 999));
+        Beach.bytes(x, 0, Beach.times(60, 0));
+        Check.due("60 left", 60, x.opens(0, 0, -2));
+        Check.due("60 left: open", 0, x.opens(0, 0, 9999));
+        Check.due("60 left: best", 0, x.bestFirst(0, 0, 9999));
+        Check.due("60 left: seconds", 0, x.opens(0, 0, -1));
+        Check.due("60 left: two", 0, x.two(0, 1));
+        Beach.law(x, "0");
+        Beach.bytes(x, 0, 18, 36);
+        Check.due("one that can nothing leaves all but CHAIRS", 1, x.opens(0, 0, -2));
+        Check.due("a CHAIR is open", 1, x.opens(0, 0, 0));
+    }
+
+    /** "as many by second s as may be, in any order". */
+    private static void bestFirstOfSixty() {
+        OpensLikeThat x = slow();
+        Beach.law(x, "1");
+        int[] row = new int[60];
+        for (int i = 0; i < 60; i++) {
+            row[i] = new int[] {7, 36, 18, 0}[i % 4];
+        }
+        Beach.bytes(x, 0, row);
+        // 15 each of 0, 1, 2 and 5 seconds.
+        int[] by = {0, 1, 14, 15, 16, 17, 44, 45, 49, 50, 119, 120};
+        int[] due = {15, 16, 29, 30, 30, 31, 44, 45, 45, 46, 59, 60};
+        for (int i = 0; i < by.length; i++) {
+            Check.due("best by " + by[i], due[i], x.bestFirst(0, 0, by[i]));
+        }
+        Check.due("the ROW itself stays", 7, (int) x.element(0, 0));
+        Check.due("in order", 0, x.opens(0, 0, 4));
+        Beach.bytes(x, 0, 0, 18, 18, 18);
+        Check.due("three of 1 rather than one of 2", 3, x.bestFirst(0, 0, 3));
+        Check.due("two of them by 2", 2, x.bestFirst(0, 0, 2));
+    }
+
+    /** "each k of the ROW must be open by second (k and 1) times t (1 .. 999)". */
+    private static void tideToTheSecond() {
+        OpensLikeThat x = slow();
+        int[] row = Beach.times(60, 36);
+        row[59] = 7;
+        Beach.bytes(x, 0, row);
+        Check.due("495 by 60 times 9", Beach.NOT, x.tide(0, 0, 9));
+        Check.due("495 by 60 times 8", 59, x.tide(0, 0, 8));
+        Beach.bytes(x, 0, Beach.times(60, 18));
+        Check.due("99 each by 99", Beach.NOT, x.tide(0, 0, 99));
+        Check.due("99 each by 98", 0, x.tide(0, 0, 98));
+        row[59] = 53;
+        row[58] = 18;
+        Beach.bytes(x, 0, row);
+        Check.due("99 by 59 times 2", 59, x.tide(0, 0, 2));
+        Check.due("99 by 59 times 1", 58, x.tide(0, 0, 1));
+        Check.due("999", Beach.NOT, x.tide(0, 0, 999));
+        Beach.law(x, "1");
+        Beach.bytes(x, 0, 18, 18, 0, 18);
+        Check.due("1 by 1, 2 by 2, 4 by 3", 2, x.tide(0, 0, 1));
+        Beach.bytes(x, 0, 36, 0, 18, 18);
+        Check.due("0 by 1, 2 by 2, 3 by 3, 4 by 4", Beach.NOT, x.tide(0, 0, 1));
+    }
+
+    /** "if two of the PEOPLE take the next one as they are free (of like ones the first one)". */
+    private static void twoShare() {
+        OpensLikeThat x = Beach.wheels();
+        for (int i = 0; i < 6; i++) {
+            x.person(i, 1);
+        }
+        Beach.law(x, "1");
+        for (int n = 0; n <= 60; n++) {
+            if (n < 4 || n > 57) {
+                Beach.bytes(x, 0, Beach.times(n, 18));
+                Check.due("alike, " + n, n - (n + 1) / 2, x.two(0, 45));
+                Check.due("alike, " + n, n - (n + 1) / 2, x.two(0, 54));
+            }
+        }
+        // One of DEFT d takes d for a MOVE.
+        Beach.law(x, "d");
+        Beach.bytes(x, 0, 18, 18, 18);
+        Check.due("1 alone: 3; with 2: 1, then 2 and 2", 3 - 2, x.two(0, 12));
+        Check.due("2 alone: 6; with 1: 2, then 1 and 2", 6 - 2, x.two(0, 21));
+        Check.due("5 alone: 15; with 1: 5, then 1 and 2", 15 - 5, x.two(0, 51));
+        Check.due("1 alone: 3; with 5: 1 and 2, but 5", 0, x.two(0, 15));
+        Beach.bytes(x, 0, 18, 18, 18, 18);
+        Check.due("1 alone: 4; with 3: both are free at 3, the first takes it", 4 - 3, x.two(0, 13));
+        // One of DEFT 0 can nothing: what it takes is left.
+        Check.due("0 takes all: none is opened", 0, x.two(0, 1));
+        Check.due("1 alone: 4; with 0: the first one takes 1, the others are left", 4 - 1, x.two(0, 10));
+    }
+
+    /** In TWO, too, one that is left takes no seconds, and not less. */
+    private static void twoLeave() {
+        OpensLikeThat x = Beach.wheels();
+        Beach.people(x, 2);
+        Beach.law(x, "1");
+        x.mend(0, 0, 1);
+        Beach.bytes(x, 0, 0, 18, 18, 18);
+        Check.due("the first leaves one, then 1, 1 and 2", 3 - 2, x.two(0, 1));
+        Beach.bytes(x, 0, 18, 0, 18, 18);
+        Check.due("the other leaves one, then 1 and 2", 3 - 2, x.two(0, 1));
+        Beach.bytes(x, 0, 0, 0, 0);
+        Check.due("all are left", 0, x.two(0, 1));
+        Beach.bytes(x, 0, 18, 0);
+        Check.due("one is opened, one left", 0, x.two(0, 1));
+    }
+
+    /** Found with 60 MOVES: the last counts. */
+    private static void foundOfSixty() {
+        OpensLikeThat x = Beach.wheels();
+        x.move(1, 0);
+        x.person(0, 1);
+        int[] row = Beach.times(60, 0);
+        Beach.bytes(x, 0, row);
+        Check.due("60 FOLDS MAY be made", Beach.NOT, x.judge(0, 18));
+        Check.due("60 FOLDS end where they began", 18, x.ends(0, 18));
+        Check.due("one can", 1, x.who(0, 18));
+        Check.due("begun there", 18, x.begun(0, 18, 1));
+        x.put(0, 59, 4);
+        Check.due("the last MAY be made of FOLD 0", Beach.NOT, x.judge(0, 18));
+        Check.due("the last MAY not, of FOLD 1", 59, x.judge(0, 36));
+        Check.due("as far as they MAY", 18, x.ends(0, 36));
+        Check.due("nobody can", 0, x.who(0, 36));
+        Check.due("begun", 18, x.begun(0, 18, 1));
+        Check.due("not begun", Beach.NOT, x.begun(0, 36, 1));
+        for (int none : new int[] {5, 6, 127, -1, -128}) {
+            x.put(0, 59, none);
+            Check.due("the last is none: " + none, 59, x.judge(0, 0));
+            Check.due("the STATE ahead of it: " + none, 36, x.ends(0, 0));
+            Check.due("nobody can: " + none, 0, x.who(0, 0));
+            Check.due("not begun: " + none, 0, x.begun(0, 36, 0));
+            x.put(0, 0, none);
+            Check.due("the first is none: " + none, 0, x.judge(0, 53));
+            Check.due("it stays: " + none, 53, x.ends(0, 53));
+            x.put(0, 0, 0);
+        }
+        Beach.bytes(x, 0);
+        for (int s : new int[] {0, 53}) {
+            Check.due("nothing made: judge", Beach.NOT, x.judge(0, s));
+            Check.due("nothing made: ends", s, x.ends(0, s));
+            Check.due("nothing made: who", 1, x.who(0, s));
+            Check.due("nothing made: begun", 1, x.begun(0, s, 0));
+            Check.due("nothing made: begun at", s, x.begun(0, s, 1));
+        }
+    }
+
+    /** "which PEOPLE (bits) can make them all". */
+    private static void whoOfSix() {
+        OpensLikeThat x = Beach.full();
+        Beach.bytes(x, 0, 0, 11, 1);
+        Check.due("all six", 63, x.who(0, 0));
+        Beach.law(x, "d");
+        Check.due("none by DEFT 0", 0, x.who(0, 0));
+        x.mend(5, 3, 1);
+        Check.due("the last", 32, x.who(0, 0));
+        x.mend(0, 3, 9);
+        Check.due("the first and the last", 33, x.who(0, 0));
+        Beach.law(x, "k");
+        x.mend(2, 4, 2051);
+        x.mend(3, 4, 2049);
+        x.mend(4, 4, 4095);
+        Check.due("who KNOWS all three", 20, x.who(0, 0));
+        x.mend(11, 0, 1);
+        Check.due("one MAY not be made", 0, x.who(0, 0));
+        Check.due("it MAY, from SIDE 1", 20, x.who(0, 1));
+    }
+
+    /** "from how many STATES all of them MAY be made and end in a told one; the least". */
+    private static void begunFromOne() {
+        OpensLikeThat x = Beach.wheels();
+        Beach.bytes(x, 0, 0, 1, 2, 3);
+        for (int end = 0; end < 54; end++) {
+            int begun = (end / 18 + 2) % 3 * 18 + (end / 6 + 2) % 3 * 6 + (end / 2 + 2) % 3 * 2 + (end + 1) % 2;
+            Check.due("how many come to " + end, 1, x.begun(0, end, 0));
+            Check.due("which comes to " + end, begun, x.begun(0, end, 1));
+        }
+        x.mend(0, 0, 2);
+        Check.due("from FOLD 2 to 0", 1, x.begun(0, 9, 0));
+        Check.due("from FOLD 0 it MAY not", 0, x.begun(0, 27, 0));
+        Check.due("from FOLD 0 it MAY not", Beach.NOT, x.begun(0, 27, 1));
+    }
+
+    /** "z = z * 1103515245 + 12345 (an int; SEED at first) ahead of each MOVE", also of a chair that stays. */
+    private static void drawnAsTold() {
+        int[][] wheels = {{0, 1, 0, 3, 1}, {1, 1, 3, 3, 1}, {2, 1, 3, 2, 1}, {3, 1, 3, 3, 1}, {0, 2, 2, 3, 1}};
+        // FOLD from 0 and from 1 alone: whoever comes to FOLD 2 stays there, while z goes on.
+        int[][] stays = {{0, 1, 0, 3, 1}, {0, 1, 1, 3, 1}, {3, 1, 0, 3, 1}};
+        int[][] twelve = {{0, 1, 3, 3, 1}, {1, 1, 3, 3, 1}, {2, 1, 3, 3, 1}, {3, 1, 0, 3, 1}, {0, 2, 3, 3, 1}, {1, 2, 3, 3, 1},
+            {2, 2, 3, 3, 1}, {3, 2, 3, 1, 1}, {0, 1, 3, 3, 1}, {1, 1, 2, 2, 1}, {2, 1, 3, 3, 1}, {3, 1, 1, 0, 1}};
+        for (int seed : new int[] {0, 1, -1, 12345, Beach.MOST, Beach.LEAST, -987654321}) {
+            for (int nm : new int[] {101, 160, 207, 1013, 5001, 5060}) {
+                drawnOf(wheels, 0, seed, nm);
+                drawnOf(wheels, 36, seed, nm);
+                drawnOf(wheels, 53, seed, nm);
+                drawnOf(stays, 0, seed, nm);
+                drawnOf(stays, 18, seed, nm);
+                drawnOf(twelve, 36, seed, nm);
+            }
+        }
+    }
+
+    private static void drawnOf(int[][] fives, int state, int seed, int nm) {
+        int z = seed;
+        int[] due = {0, 0};
+        for (int n = 0; n < nm / 100; n++) {
+            int at = state;
+            boolean was = isChair(at);
+            for (int m = 0; m < nm % 100; m++) {
+                z = z * 1103515245 + 12345;
+                int[] can = canLead(fives, at);
+                at = can.length == 0 ? at : can[(z >>> 8) % can.length];
+                was |= isChair(at);
+            }
+            due[0] += isChair(at) ? 1 : 0;
+            due[1] += was ? 1 : 0;
+        }
+        OpensLikeThat x = new OpensLikeThat();
+        for (int[] five : fives) {
+            Beach.bytes(x, 0, five);
+            x.moves(0, 0, 1);
+        }
+        Check.due("CHAIRS at the ends of " + nm + " by " + seed, due[0], x.drawn(state, seed, nm, 0));
+        Check.due("CHAIRS on the way of " + nm + " by " + seed, due[1], x.drawn(state, seed, nm, 1));
+    }
+
+    /** Where all that MAY be made lead, by numbers. */
+    private static int[] canLead(int[][] fives, int s) {
+        int[] parts = {s / 18, s / 6 % 3, s / 2 % 3, s % 2};
+        int[] weight = {18, 6, 2, 1};
+        int[] can = new int[12];
+        int how = 0;
+        for (int[] f : fives) {
+            int part = parts[f[0]];
+            if ((f[2] == 3 || f[2] == part) && (f[3] == 3 || f[3] == parts[0])) {
+                can[how++] = s + weight[f[0]] * ((part + f[1]) % (f[0] == 3 ? 2 : 3) - part);
+            }
+        }
+        return java.util.Arrays.copyOf(can, how);
+    }
+
+    private static boolean isChair(int s) {
+        return s == 36 || s == 38 || s == 40;
     }
 }

@@ -19,14 +19,16 @@ public final class ModelTest {
 
     public static void main(String[] args) {
         for (int run = 0; run < 150; run++) {
-            setUp(run);
+            choose(run);
+            begin();
             seconds();
-            ways();
-            rows();
             drawn();
             if (run % 5 == 0) {
                 shown();
             }
+            ways();
+            begin();
+            rows();
         }
         faults();
         Check.end();
@@ -36,8 +38,7 @@ public final class ModelTest {
         return random.nextInt(n);
     }
 
-    private static void setUp(int run) {
-        x = new OpensLikeThat();
+    private static void choose(int run) {
         moves = run % 13;
         people = 1 + upTo(6);
         move = new int[moves][];
@@ -46,9 +47,6 @@ public final class ModelTest {
             int from = upTo(2) == 0 ? 3 : upTo(what == 3 ? 2 : 3);
             int needs = upTo(2) == 0 ? 3 : upTo(3);
             move[m] = new int[] {what, 1 + upTo(2), from, needs, upTo(10)};
-            Check.due("move", m, x.move(what * 10 + move[m][1], from));
-            x.mend(m, 1, needs);
-            x.mend(m, 2, move[m][4]);
         }
         deft = new int[people];
         knows = new int[people];
@@ -57,12 +55,26 @@ public final class ModelTest {
             deft[p] = upTo(10);
             learns[p] = 1 + upTo(9);
             knows[p] = upTo(2) * upTo(4096);
-            Check.due("person", p, x.person(deft[p], learns[p]));
-            x.mend(p, 4, knows[p]);
         }
         law = null;
         if (run % 3 != 0) {
             law = run % 3 == 1 ? text() : "(1+h)*(3-k)+f-n*" + upTo(4) + "+m%3-d/" + (1 + upTo(4));
+        }
+    }
+
+    /** An object as it was chosen, by 170 calls at most: so 340 are left to ask it. */
+    private static void begin() {
+        x = new OpensLikeThat();
+        for (int m = 0; m < moves; m++) {
+            Check.due("move", m, x.move(move[m][0] * 10 + move[m][1], move[m][2]));
+            x.mend(m, 1, move[m][3]);
+            x.mend(m, 2, move[m][4]);
+        }
+        for (int p = 0; p < people; p++) {
+            Check.due("person", p, x.person(deft[p], learns[p]));
+            x.mend(p, 4, knows[p]);
+        }
+        if (law != null) {
             Check.due("law " + law, 1, Beach.law(x, law));
         }
     }
@@ -240,8 +252,8 @@ public final class ModelTest {
 
     private static void faults() {
         String signs = "dhfnkm0123456789()!-+*/%<=>&|?;xK \u0000\u00ff";
-        x = new OpensLikeThat();
         for (int i = 0; i < 20000; i++) {
+            x = new OpensLikeThat();
             StringBuilder b = new StringBuilder(text());
             for (int k = upTo(3); k > 0 && b.length() > 0; k--) {
                 int at = upTo(b.length());
@@ -349,6 +361,9 @@ public final class ModelTest {
             left[m] = 54 - cannot(between(-1, 0, false, m, false));
         }
         for (int s = 0; s < 54; s++) {
+            if (s % 12 == 0) {
+                begin();
+            }
             int ps = 100 * (p + 1) + s;
             String told = " from " + ps + " by " + law;
             for (int to : new int[] {54, 55, upTo(54), upTo(54), s}) {

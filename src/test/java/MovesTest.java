@@ -1,18 +1,22 @@
-/** Promises 1 to 10: a new object, moves, people, the law. */
+/** Promises 1 to 6, 9 and 10: a new object, moves, people, where a MOVE leads. LawTest has the law. */
 public final class MovesTest {
     public static void main(String[] args) {
         newObject();
         move();
         moves();
+        movesEnd();
+        movesOfSixty();
+        movesNotSo();
+        movesTillFull();
         person();
         mend();
+        mendTheLast();
         of();
-        feed();
-        lawIsWorkedOut();
-        lawHasFaults();
-        lawStays();
+        knownAhead();
         leads();
         takes();
+        whichAreChairs();
+        lastCall();
         Check.end();
     }
 
@@ -24,13 +28,15 @@ public final class MovesTest {
         for (int what = 0; what < 4; what++) {
             Check.due("new led(" + what + ")", 0, x.led(what));
         }
-        Check.due("new of(0, 8)", 0, x.of(0, 8));
+        Check.due("it lies shut", 0, x.of(0, 8));
+        Check.due("SHUT", 0, x.way(x.of(0, 8), 55, 0));
         Check.due("new trace", Beach.BAD, x.trace(0));
         Check.due("new undo", Beach.STATE, x.undo());
         Check.due("new redo", Beach.STATE, x.redo());
         Check.due("new back", Beach.STATE, x.back());
         for (int shelf = 0; shelf < 6; shelf++) {
             Check.due("new shelf", Beach.BARE, x.put(shelf, 0, 1));
+            Check.due("new shelf", Beach.BARE, x.taken(shelf, 0));
         }
     }
 
@@ -53,24 +59,11 @@ public final class MovesTest {
         Check.due("count", 12, x.count(0));
         Check.due("NEEDS at first", 3, x.of(11, 1));
         Check.due("HARD at first", 1, x.of(11, 2));
-        Check.due("extreme move", Beach.BAD, x.move(Integer.MIN_VALUE, 3));
-        Check.due("extreme move", Beach.BAD, x.move(Integer.MAX_VALUE, 3));
     }
 
+    /** "by fives WHAT, BY, FROM, NEEDS, HARD: n of them", "from a place on". */
     private static void moves() {
         OpensLikeThat x = new OpensLikeThat();
-        Check.due("missing row", 0, x.moves(0, 0, 1));
-        Check.due("no shelf", Beach.BAD, x.moves(6, 0, 1));
-        Check.due("no shelf", Beach.BAD, x.moves(-1, 0, 1));
-        Check.due("none wanted", Beach.BAD, x.moves(0, 0, 0));
-        Check.due("too many wanted", Beach.BAD, x.moves(0, 0, 13));
-        x.row(1, 1, 10);
-        Check.due("shorts", Beach.KIND, x.moves(1, 0, 1));
-        Check.due("BAD ahead of -12", Beach.BAD, x.moves(1, 0, 13));
-        x.body(0);
-        x.keep(1, 0);
-        Check.due("a FRAME", Beach.KIND, x.moves(1, 0, 1));
-
         Beach.bytes(x, 0, 9, 0, 1, 3, 2, 7, 3, 2, 1, 0, 0, 1, 1, 2, 3, 9, 2, 2);
         Check.due("ends within a five", 3, x.moves(0, 1, 12));
         int[] due = {0, 1, 3, 2, 7, 3, 2, 1, 0, 0, 1, 1, 2, 3, 9};
@@ -80,40 +73,119 @@ public final class MovesTest {
         }
         Check.due("no more than wanted", 1, x.moves(0, 6, 1));
         Check.due("WHAT", 3, x.of(3, 6));
-        Check.due("at the end", 0, x.moves(0, 18, 1));
-        Check.due("behind the end", 0, x.moves(0, Integer.MAX_VALUE, 12));
-        Check.due("ahead of the row", 0, x.moves(0, -1, 12));
-        Check.due("ahead of the row", 0, x.moves(0, Integer.MIN_VALUE, 12));
-        Check.due("ahead of the row by a five", 0, x.moves(0, -4, 12));
-        Check.due("count", 4, x.count(0));
+        Check.due("two of three", 2, x.moves(0, 1, 2));
+        Check.due("all three", 3, x.moves(0, 1, 3));
+        Check.due("three of four", 3, x.moves(0, 1, 4));
+        Check.due("count", 12, x.count(0));
+        Check.due("the first leads", 2, x.leads(0, 38));
+        Check.due("their NEEDS", Beach.NOT, x.leads(0, 20));
+    }
+
+    /** "it ends where the row is missing, ends (within a five, too)": BAD, -12 are of the SHELF and n alone. */
+    private static void movesEnd() {
+        OpensLikeThat x = new OpensLikeThat();
+        Check.due("missing row", 0, x.moves(0, 0, 1));
+        Check.due("missing row, any place", 0, x.moves(5, Beach.LEAST, 12));
+        Check.due("no shelf", Beach.BAD, x.moves(6, 0, 1));
+        Check.due("no shelf", Beach.BAD, x.moves(-1, 0, 1));
+        Check.due("none wanted", Beach.BAD, x.moves(0, 0, 0));
+        Check.due("too many wanted", Beach.BAD, x.moves(0, 0, 13));
+        for (int sort = 1; sort < 5; sort++) {
+            x.row(1, sort, 10);
+            Check.due("no bytes, sort " + sort, Beach.KIND, x.moves(1, 0, 1));
+            Check.due("BAD ahead of -12", Beach.BAD, x.moves(1, 0, 13));
+        }
+        x.body(0);
+        x.keep(1, 0);
+        Check.due("a FRAME", Beach.KIND, x.moves(1, 0, 1));
         Beach.bytes(x, 2);
         Check.due("an empty row", 0, x.moves(2, 0, 1));
-        Beach.bytes(x, 2, 0, 0, 1, 3, 3, 5);
-        Check.due("a five up to the end", 1, x.moves(2, 1, 12));
-        Check.due("its HARD", 5, x.of(4, 2));
+        Beach.bytes(x, 2, 0, 1, 3, 3);
+        Check.due("four are no five", 0, x.moves(2, 0, 12));
+        Beach.bytes(x, 2, 0, 1, 3, 3, 5);
+        for (int place : new int[] {1, 2, 4, 5, 6, 60, Beach.MOST - 4, Beach.MOST, -1, -4, -5, Beach.LEAST}) {
+            Check.due("from place " + place, 0, x.moves(2, place, 12));
+        }
+        Beach.bytes(x, 3, Beach.times(60, 1));
+        for (int place : new int[] {56, 57, 59, 60, 61, -1, -2, -3, -4, -5, -60, Beach.LEAST, Beach.MOST}) {
+            Check.due("of 60 alike, from place " + place, 0, x.moves(3, place, 1));
+        }
+        Check.due("none came", 0, x.count(0));
+        Check.due("a five up to the end", 1, x.moves(2, 0, 12));
+        Check.due("its HARD", 5, x.of(0, 2));
+        Beach.bytes(x, 2, 9, 0, 2, 3, 3, 6);
+        Check.due("a five up to the end, from place 1", 1, x.moves(2, 1, 12));
+        Check.due("its HARD", 6, x.of(1, 2));
+    }
 
-        int[] good = {3, 1, 1, 3, 9};
-        int[][] wrong = {{-1, 4}, {0, 3, -1}, {-1, 2, 4}, {-1, 4}, {-1, 10}};
+    /** A ROW of 60 elements has 12 MOVES. */
+    private static void movesOfSixty() {
+        int[] row = new int[60];
+        for (int i = 0; i < 12; i++) {
+            int[] five = {i % 4, i % 2 + 1, 3, i % 4, i % 10};
+            System.arraycopy(five, 0, row, 5 * i, 5);
+        }
+        OpensLikeThat x = new OpensLikeThat();
+        Beach.bytes(x, 5, row);
+        Check.due("within the last five", 0, x.moves(5, 56, 12));
+        Check.due("the last five", 1, x.moves(5, 55, 12));
+        Check.due("11 more are all", 11, x.moves(5, 0, 12));
+        Check.due("the last is of the row's 11th", 0, x.of(11, 2));
+        OpensLikeThat y = new OpensLikeThat();
+        Beach.bytes(y, 5, row);
+        Check.due("all 12", 12, y.moves(5, 0, 12));
+        for (int i = 0; i < 60; i++) {
+            Check.due("number " + i, row[i], y.of(i / 5, new int[] {6, 7, 0, 1, 2}[i % 5]));
+        }
+        Check.due("no more", 0, y.moves(5, 0, 12));
+    }
+
+    /** "one is not so": each number of a five, the last that is so and the first that is not. */
+    private static void movesNotSo() {
+        int[] five = {2, 1, 1, 3, 5};
+        int[][] so = {{0, 1, 2, 3}, {1, 2}, {0, 1, 2, 3}, {0, 1, 2, 3}, {0, 1, 8, 9}};
+        int[][] notSo = {{-1, 4, 127, -128}, {0, 3, -1, -128}, {-1, 4, 127, -128}, {-1, 4, 127, -128}, {-1, 10, 127, -128}};
         for (int i = 0; i < 5; i++) {
-            for (int w : wrong[i]) {
-                int[] row = {0, 1, 3, 3, 1, 3, 1, 1, 3, 9, 0, 1, 3, 3, 1};
-                row[5 + i] = w;
-                OpensLikeThat y = new OpensLikeThat();
-                Beach.bytes(y, 0, row);
-                Check.due("not so: " + i + " " + w + " for " + good[i], 1, y.moves(0, 0, 3));
-                Check.due("those ahead came", 1, y.count(0));
+            for (int v : so[i]) {
+                comes(five, i, v, 3);
+            }
+            for (int v : notSo[i]) {
+                comes(five, i, v, 1);
             }
         }
+        int[] ofSide = {3, 1, 1, 3, 5};
+        comes(ofSide, 2, 0, 3);
+        comes(ofSide, 2, 2, 1);
+        comes(ofSide, 2, 3, 3);
+    }
 
-        OpensLikeThat full = new OpensLikeThat();
-        for (int i = 0; i < 10; i++) {
-            full.move(1, 3);
+    private static void comes(int[] five, int i, int v, int due) {
+        int[] row = {0, 1, 3, 3, 1, 0, 0, 0, 0, 0, 1, 2, 0, 0, 0};
+        System.arraycopy(five, 0, row, 5, 5);
+        row[5 + i] = v;
+        OpensLikeThat x = new OpensLikeThat();
+        Beach.bytes(x, 0, row);
+        Check.due("those ahead of number " + i + " with " + v, due, x.moves(0, 0, 12));
+        Check.due("so many came", due, x.count(0));
+        if (due == 3) {
+            Check.due("number " + i + " as it was put", v, x.of(1, new int[] {6, 7, 0, 1, 2}[i]));
         }
-        Beach.bytes(full, 0, 0, 1, 3, 3, 1, 1, 1, 3, 3, 1, 2, 1, 3, 3, 1);
-        Check.due("till FULL", 2, full.moves(0, 0, 3));
-        Check.due("FULL ahead", 0, full.moves(0, 0, 3));
-        Check.due("count", 12, full.count(0));
-        Check.due("the last that came", 1, full.of(11, 6));
+    }
+
+    /** "or MOVES are FULL: those ahead came". */
+    private static void movesTillFull() {
+        int[] came = {3, 3, 2, 1, 0};
+        int[] lastWhat = {2, 2, 1, 0, 0};
+        for (int i = 0; i < 5; i++) {
+            OpensLikeThat x = new OpensLikeThat();
+            for (int ahead = 0; ahead < 8 + i; ahead++) {
+                x.move(1, 3);
+            }
+            Beach.bytes(x, 0, 0, 1, 3, 3, 1, 1, 1, 3, 3, 1, 2, 1, 3, 3, 1);
+            Check.due("till FULL from " + (8 + i), came[i], x.moves(0, 0, 3));
+            Check.due("count", 8 + i + came[i], x.count(0));
+            Check.due("the last that came", lastWhat[i], x.of(x.count(0) - 1, 6));
+        }
     }
 
     private static void person() {
@@ -163,6 +235,31 @@ public final class MovesTest {
         Check.due("NEEDS counts", Beach.NOT, x.leads(0, 36));
     }
 
+    /** One of the last MOVES and the last of the PEOPLE; no number beside the one mended becomes another. */
+    private static void mendTheLast() {
+        int[] v = {2, 0, 9, 9, 2048, 9};
+        for (int what = 0; what < 6; what++) {
+            OpensLikeThat x = Beach.full();
+            int last = what < 3 ? 10 : 5;
+            int[] was = numbers(x);
+            int at = last * 8 + what;
+            Check.due("mend " + what, was[at], x.mend(last, what, v[what]));
+            was[at] = v[what];
+            int[] now = numbers(x);
+            for (int i = 0; i < was.length; i++) {
+                Check.due("of(" + i / 8 + ", " + i % 8 + ") behind mend of " + what, was[i], now[i]);
+            }
+        }
+    }
+
+    private static int[] numbers(OpensLikeThat x) {
+        int[] all = new int[96];
+        for (int i = 0; i < all.length; i++) {
+            all[i] = x.of(i / 8, i % 8);
+        }
+        return all;
+    }
+
     private static void of() {
         OpensLikeThat x = new OpensLikeThat();
         for (int what = 0; what < 8; what++) {
@@ -183,234 +280,90 @@ public final class MovesTest {
         Check.due("of(0, -1)", Beach.BAD, x.of(0, -1));
     }
 
-    private static void feed() {
+    /** "KNOWS (bits of MOVES)": also of those that have not come yet. */
+    private static void knownAhead() {
         OpensLikeThat x = new OpensLikeThat();
-        Check.due("feed(-1)", Beach.BAD, x.feed(-1));
-        Check.due("feed(256)", Beach.BAD, x.feed(256));
-        for (int i = 1; i <= 120; i++) {
-            Check.due("feed", i, x.feed(i * 2));
+        x.person(0, 1);
+        Check.due("none at first", 0, x.mend(0, 4, 4095));
+        for (int i = 0; i < 12; i++) {
+            x.move(31, 3);
+            Check.due("it KNOWS it as it comes", 2, x.takes(0, i, 0));
         }
-        Check.due("one too many", Beach.FULL, x.feed(0));
-        Check.due("BAD ahead of FULL", Beach.BAD, x.feed(256));
-        Check.due("count", 120, x.count(2));
-        Check.due("none of it is a text", -100, x.law());
-        Check.due("empty then", 0, x.count(2));
-        Check.due("feed(0)", 1, x.feed(0));
-        Check.due("feed(255)", 2, x.feed(255));
+        Check.due("all but the last", 4095, x.mend(0, 4, 2047));
+        Check.due("the last is not known", 4, x.takes(0, 11, 0));
+        Check.due("the one ahead is", 2, x.takes(0, 10, 0));
     }
 
-    /** MOVE 5 of one with DEFT 7 that KNOWS it, HARD 4, ahead of STATE 2 * 18 + 2 (FOLD 2, NOTCH 1). */
-    private static OpensLikeThat ready() {
-        OpensLikeThat x = new OpensLikeThat();
-        for (int i = 0; i < 6; i++) {
-            x.move(1, 3);
-        }
-        x.person(7, 1);
-        x.mend(5, 2, 4);
-        x.mend(0, 4, 32);
-        return x;
+    /** "how many seconds it takes of one": what the law gives for it is LawTest's. */
+    private static void takes() {
+        OpensLikeThat x = Beach.full();
+        x.mend(5, 3, 9);
+        x.mend(11, 2, 9);
+        Check.due("nobody", 1, x.takes(-1, 11, 53));
+        Check.due("the first one, the first MOVE", 4, x.takes(0, 0, 0));
+        Check.due("the first one, the last MOVE", 20, x.takes(0, 11, 53));
+        Check.due("the last one, the last MOVE", 17, x.takes(5, 11, 53));
+        Check.due("no one", Beach.BAD, x.takes(6, 0, 0));
+        Check.due("no one", Beach.BAD, x.takes(-2, 0, 0));
+        Check.due("no move", Beach.BAD, x.takes(0, 12, 0));
+        Check.due("no move", Beach.BAD, x.takes(-1, -1, 0));
+        Check.due("no state", Beach.BAD, x.takes(0, 0, 54));
+        Check.due("no state", Beach.BAD, x.takes(-1, 0, -1));
     }
 
-    private static void gives(String text, int seconds) {
-        OpensLikeThat x = ready();
-        Check.due("law " + text, 1, Beach.law(x, text));
-        Check.due("the tape is empty", 0, x.count(2));
-        Check.due("seconds by " + text, seconds, x.takes(0, 5, 38));
-    }
-
-    private static void lawIsWorkedOut() {
-        gives("d", 7);
-        gives("h", 4);
-        gives("f", 2);
-        gives("n", 1);
-        gives("k", 1);
-        gives("m", 5);
-        gives("0", 0);
-        gives("0099", 99);
-        gives("100", 99);
-        gives("-1", 0);
-        gives("9-4-3", 2);
-        gives("2+3*4", 14);
-        gives("(2+3)*4", 20);
-        gives("17/5*2", 6);
-        gives("17%5*2", 4);
-        gives("50+-7/2", 47);
-        gives("50+-7%2", 49);
-        gives("50+7/-2", 47);
-        gives("50+7%-2", 51);
-        gives("9/0", 0);
-        gives("9%0", 0);
-        gives("3+9/(d-7)", 3);
-        gives("!d", 0);
-        gives("!!d", 1);
-        gives("!(d-7)", 1);
-        gives("5--3", 8);
-        gives("--3", 3);
-        gives("1<2", 1);
-        gives("2<1", 0);
-        gives("2<2", 0);
-        gives("2>1", 1);
-        gives("2>2", 0);
-        gives("2=2", 1);
-        gives("2=3", 0);
-        gives("1+1=2", 1);
-        gives("((3>2)>1)+7", 7);
-        gives("7|0", 1);
-        gives("0|0", 0);
-        gives("7&9", 1);
-        gives("7&0", 0);
-        gives("1|0&0", 1);
-        gives("(1|0)&0", 0);
-        gives("0|0|5", 1);
-        gives("1<2&2<3", 1);
-        gives("1<2&3<2|0", 0);
-        gives("-9999*9999*9999*9999*9999+77", Math.max(0, Math.min(99, -9999 * 9999 * 9999 * 9999 * 9999 + 77)));
-        gives("9999*9999*43+60", Math.max(0, Math.min(99, 9999 * 9999 * 43 + 60)));
-        gives("f?11;12", 11);
-        gives("f-2?11;12", 12);
-        gives("f-2?11;0?12", 0);
-        gives("f-2?11;-1?12;13", 12);
-        gives("0?11;3;4", 3);
-        gives("0;3", 0);
-        gives("f=2&n=1?d*h-k;5", 27);
-        gives("((((((9))))))", 9);
-        gives("!-!-!-9", 0);
-        gives("(!(-(!9)))+8", 9);
-        gives("((((((9))))))+((((((8))))))-!-!-!-7", 17);
-        StringBuilder longest = new StringBuilder("1");
-        while (longest.length() < 119) {
-            longest.append("+1");
-        }
-        gives(longest.toString(), 60);
-        gives(longest.substring(0, 118) + "22", 59 + 22);
-        gives(longest.substring(0, 113) + "?21+11", 32);
-    }
-
-    private static void fault(String text, int place) {
-        OpensLikeThat x = ready();
-        Check.due("fault of " + text, -100 - place, Beach.law(x, text));
-        Check.due("the tape is empty", 0, x.count(2));
-        Check.due("no law came by " + text, 3, x.takes(0, 5, 38));
-    }
-
-    private static void lawHasFaults() {
-        fault("", 0);
-        fault("x", 0);
-        fault("D", 0);
-        fault(" 1", 0);
-        fault("1 ", 1);
-        fault("1;", 2);
-        fault(";", 0);
-        fault("1;;2", 2);
-        fault("1?", 2);
-        fault("?1", 0);
-        fault("1?2?3", 3);
-        fault("1?2;3?4?5", 7);
-        fault("(1?2)", 2);
-        fault("(1;2)", 2);
-        fault("12345", 4);
-        fault("1d", 1);
-        fault("d1", 1);
-        fault("dd", 1);
-        fault("1<2<3", 3);
-        fault("1=2>3", 3);
-        fault("1<2&3<4<5", 7);
-        fault("1+", 2);
-        fault("1+*2", 2);
-        fault("1++2", 2);
-        fault("+1", 0);
-        fault("1!2", 1);
-        fault("!", 1);
-        fault("-", 1);
-        fault("()", 1);
-        fault("(1", 2);
-        fault("(1))", 3);
-        fault(")", 0);
-        fault("1||2", 2);
-        fault("1&|2", 2);
-        fault("(((((((1)))))))", 6);
-        fault("!!!!!!!1", 6);
-        fault("-------1", 6);
-        fault("(!-(!-(1))))", 6);
-        fault("(!-(!-!1))", 6);
-        fault("1+((((((1+(1)))))))", 10);
-        fault("1\u0000", 1);
-        fault("1\u00ff", 1);
-        fault("h*2.", 3);
-    }
-
-    private static void lawStays() {
-        OpensLikeThat x = ready();
-        Check.due("a law", 1, Beach.law(x, "d*3"));
-        Check.due("by it", 21, x.takes(0, 5, 0));
-        Check.due("a fault", -102, Beach.law(x, "44!"));
-        Check.due("the law ahead stays", 21, x.takes(0, 5, 0));
-        Check.due("no text", -100, x.law());
-        Check.due("the law ahead stays", 21, x.takes(0, 5, 0));
-        Check.due("another", 1, Beach.law(x, "f"));
-        Check.due("by the other", 1, x.takes(0, 5, 18));
-        Check.due("0: one cannot", 0, x.takes(0, 5, 0));
-        Check.due("way: one cannot", Beach.NOT, x.way(100, 18, 0));
-        Check.due("nobody can", 1, x.way(0, 18, 0));
-    }
-
+    /** "In a STATE a MOVE MAY be made, if FROM and NEEDS say so": each kind of MOVE, each FROM and NEEDS, each STATE. */
     private static void leads() {
-        OpensLikeThat x = new OpensLikeThat();
-        int[] wb = {1, 2, 11, 12, 21, 22, 31, 32};
-        int[] weight = {18, 6, 2, 1};
-        int[] round = {3, 3, 3, 2};
-        for (int m = 0; m < wb.length; m++) {
-            x.move(wb[m], 3);
-        }
-        for (int m = 0; m < wb.length; m++) {
+        for (int wb : new int[] {1, 2, 11, 12, 21, 22, 31, 32}) {
             for (int from = 0; from <= 3; from++) {
-                for (int needs = 0; needs <= 3; needs++) {
-                    if (x.mend(m, 0, from) == Beach.BAD) {
-                        continue;
-                    }
-                    x.mend(m, 1, needs);
-                    int what = wb[m] / 10;
-                    for (int s = 0; s < 54; s++) {
-                        int ahead = s / weight[what] % round[what];
-                        boolean may = (from == 3 || from == ahead) && (needs == 3 || needs == s / 18);
-                        int then = (ahead + wb[m] % 10) % round[what];
-                        int due = may ? s + weight[what] * (then - ahead) : Beach.NOT;
-                        Check.due("leads(" + m + ", " + s + ")", due, x.leads(m, s));
-                    }
+                for (int needs = 0; needs <= 3 && (from != 2 || wb < 30); needs++) {
+                    leadsOf(wb, from, needs);
                 }
             }
         }
-        Check.due("no move", Beach.BAD, x.leads(8, 0));
+        OpensLikeThat x = Beach.full();
+        Check.due("the last MOVE", 0, x.leads(11, 1));
+        Check.due("no move", Beach.BAD, x.leads(12, 0));
         Check.due("no move", Beach.BAD, x.leads(-1, 0));
         Check.due("no state", Beach.BAD, x.leads(0, -1));
         Check.due("no state", Beach.BAD, x.leads(0, 54));
     }
 
-    private static void takes() {
+    private static void leadsOf(int wb, int from, int needs) {
+        int[] weight = {18, 6, 2, 1};
+        int[] round = {3, 3, 3, 2};
+        int what = wb / 10;
         OpensLikeThat x = new OpensLikeThat();
-        x.move(1, 0);
-        x.person(0, 1);
-        for (int hard = 0; hard <= 9; hard++) {
-            for (int deft = 0; deft <= 9; deft++) {
-                for (int k = 0; k < 2; k++) {
-                    x.mend(0, 2, hard);
-                    x.mend(0, 3, deft);
-                    x.mend(0, 4, k);
-                    int due = Math.max(1, (1 + hard) * (2 - k) - deft / 3);
-                    Check.due("takes by no text", due, x.takes(0, 0, 0));
-                    Check.due("takes where it MAY not", due, x.takes(0, 0, 53));
-                    Check.due("takes nobody", 1, x.takes(-1, 0, 53));
-                }
-            }
+        Check.due("move", 0, x.move(wb, from));
+        Check.due("NEEDS any at first", 3, x.mend(0, 1, needs));
+        for (int s = 0; s < 54; s++) {
+            int ahead = s / weight[what] % round[what];
+            boolean may = (from == 3 || from == ahead) && (needs == 3 || needs == s / 18);
+            int then = (ahead + wb % 10) % round[what];
+            int due = may ? s + weight[what] * (then - ahead) : Beach.NOT;
+            Check.due(wb + " from " + from + " needs " + needs + " leads in " + s, due, x.leads(0, s));
         }
-        Check.due("a law counts for nobody", 1, Beach.law(x, "7"));
-        Check.due("nobody", 1, x.takes(-1, 0, 0));
-        Check.due("one", 7, x.takes(0, 0, 0));
-        Check.due("no one", Beach.BAD, x.takes(1, 0, 0));
-        Check.due("no one", Beach.BAD, x.takes(-2, 0, 0));
-        Check.due("no move", Beach.BAD, x.takes(0, 1, 0));
-        Check.due("no move", Beach.BAD, x.takes(-1, -1, 0));
-        Check.due("no state", Beach.BAD, x.takes(0, 0, 54));
-        Check.due("no state", Beach.BAD, x.takes(-1, 0, -1));
+    }
+
+    /** "SHUT: FOLD 0. A CHAIR: FOLD 2, CLOTH 0, SIDE 0 (any NOTCH)." */
+    private static void whichAreChairs() {
+        for (int s = 0; s < 54; s++) {
+            OpensLikeThat x = new OpensLikeThat();
+            boolean isChair = s == 36 || s == 38 || s == 40;
+            Check.due("CHAIR: " + s, isChair ? 0 : Beach.NOT, x.way(s, 54, 0));
+            Check.due("SHUT: " + s, s <= 17 ? 0 : Beach.NOT, x.way(s, 55, 1));
+            Check.due("CHAIRS reached: " + s, isChair ? 1 : 0, x.reach(s, 1));
+            Check.due("WITHOUT SHUTTING: " + s, s <= 17 ? 0 : 1, x.reach(s, 2));
+            Check.due("a CHAIR drawn: " + s, isChair ? 1 : 0, x.drawn(s, 0, 101, 0));
+        }
+    }
+
+    /** "An object is used for at most 512 calls": the 512th still counts. */
+    private static void lastCall() {
+        OpensLikeThat x = new OpensLikeThat();
+        x.move(1, 3);
+        for (int i = 0; i < 510; i++) {
+            Check.due("lay", i == 0 ? 0 : (i - 1) % 54, x.lay(i % 54));
+        }
+        Check.due("the 512th", 510, x.led(3));
     }
 }

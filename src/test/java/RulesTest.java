@@ -6,10 +6,10 @@ import java.util.regex.Pattern;
 
 /** What of LANGUAGE.md can be seen in the text of the program; its path comes as the argument. */
 public final class RulesTest {
-    private static final String[] WORDS = {"throw", "throws", "try", "catch", "finally", "synchronized", "assert", "import",
-        "protected", "package", "native", "volatile", "transient", "double", "float", "String", "System.out", "Object",
-        "equals", "hashCode", "toString", "Exact", "var", "yield"};
-    private static final String[] SIGNS = {"->", "::", "@", "\"", "goto"};
+    private static final String[] WORDS = {"throw", "throws", "try", "catch", "finally", "synchronized", "assert",
+        "protected", "package", "Object", "hashCode", "Thread", "Random"};
+    private static final String[] SIGNS = {"::", "Exact(", "System.out", "System.err", "System.exit", "System.nano",
+        "System.current", "System.get", "System.identity"};
 
     public static void main(String[] args) throws IOException {
         String path = args.length > 0 ? args[0] : "src/main/java/OpensLikeThat.java";
@@ -25,6 +25,12 @@ public final class RulesTest {
         }
         for (String sign : SIGNS) {
             Check.due("the sign " + sign, 0, code.contains(sign) ? 1 : 0);
+        }
+        for (String line : code.split("\n")) {
+            boolean lambda = line.contains("->") && !line.trim().matches("(case .*|default) ->.*");
+            Check.due("a lambda: " + line, 0, lambda ? 1 : 0);
+            boolean strange = line.startsWith("import ") && !line.matches("import java\\.util\\.(ArrayList|List|Arrays|Iterator);");
+            Check.due("an outside name: " + line, 0, strange ? 1 : 0);
         }
         Matcher inside = Pattern.compile("\\b(class|interface|enum|record) (\\w+)").matcher(code);
         int classes = 0;
@@ -45,7 +51,7 @@ public final class RulesTest {
                 continue;
             }
             int end = i;
-            while (!lines[end].equals(m.group(1) + "}")) {
+            while (end < lines.length - 1 && !lines[end].equals(m.group(1) + "}")) {
                 end++;
             }
             Check.due("lines of " + lines[i].trim(), 1, end - i <= 60 ? 1 : 0);

@@ -12,6 +12,14 @@ public final class ShelvesTest {
         shift();
         taken();
         count();
+        actsByHand();
+        traceOfTheLatest();
+        whatAShelfHolds();
+        rowOfSixty();
+        shiftOfSixty();
+        shiftOfEachSort();
+        takenOfFifty();
+        countOfAll();
         Check.end();
     }
 
@@ -121,12 +129,15 @@ public final class ShelvesTest {
         }
     }
 
+    /** "ACTS with x (an int that wraps)"; "n its number": each KIND, each of 50 numbers. */
     private static void actsOfEachKind() {
-        OpensLikeThat x = new OpensLikeThat();
-        int[] xs = {0, 1, -1, 7, 1000, Integer.MAX_VALUE, Integer.MIN_VALUE, 0x55555555};
+        int[] xs = {0, 1, -1, 7, 1000, Integer.MAX_VALUE, Integer.MAX_VALUE - 48, Integer.MIN_VALUE, 0x40000000, 0x55555555};
         for (int n = 0; n < 50; n++) {
             int kind = (n * 3 + n / 8) % 8;
-            x.body(kind);
+            OpensLikeThat x = new OpensLikeThat();
+            for (int i = 0; i < 50; i++) {
+                x.body(i == n ? kind : 7);
+            }
             Frame[] kinds = {new Frame(), new Cloth(), new Bar(), new Notch(), new Stripe(), new Finger(), new Sand(), new Child()};
             kinds[kind].n = n;
             for (int act = 0; act < 4; act++) {
@@ -173,7 +184,9 @@ public final class ShelvesTest {
     }
 
     private static void noAct() {
-        int[][] wrong = {{-1, 0}, {2, 0}, {50, 0}, {0, -1}, {0, 4}, {Integer.MIN_VALUE, Integer.MAX_VALUE}};
+        int[][] wrong = {{-1, 0}, {2, 0}, {3, 3}, {50, 0}, {0, -1}, {1, -2}, {0, 4}, {1, 4}, {0, 5}, {1, 5}, {1, 9}, {0, 30},
+            {0, Integer.MIN_VALUE}, {0, Integer.MAX_VALUE}, {Integer.MIN_VALUE, 0}, {Integer.MAX_VALUE, 0},
+            {Integer.MIN_VALUE, Integer.MAX_VALUE}};
         for (int[] w : wrong) {
             OpensLikeThat x = new OpensLikeThat();
             x.body(7);
@@ -215,17 +228,6 @@ public final class ShelvesTest {
         Check.due("BAD ahead of -14", Beach.BAD, x.row(0, 5, -1));
         Check.due("BAD ahead of -14", Beach.BAD, x.row(6, 0, -1));
         Check.due("nothing came", Beach.BARE, x.put(0, 0, 0));
-        for (int sort = 0; sort < 5; sort++) {
-            Check.due("row", 1, x.row(sort, sort, 60));
-            for (int i = 0; i < 60; i++) {
-                Check.due("0 at first", 0, x.element(sort, i));
-                x.put(sort, i, 1);
-            }
-            Check.due("again", 1, x.row(sort, sort, 60));
-            for (int i = 0; i < 60; i++) {
-                Check.due("0 at first again", 0, x.element(sort, i));
-            }
-        }
         Check.due("an empty one", 1, x.row(0, 0, 0));
         Check.due("no place in it", Beach.PLACE, x.put(0, 0, 0));
     }
@@ -338,5 +340,210 @@ public final class ShelvesTest {
         }
         Check.due("count(-1)", Beach.BAD, x.count(-1));
         Check.due("count(6)", Beach.BAD, x.count(6));
+    }
+
+    /** The sums of the document by hand, for x 5 and the number 1. */
+    private static void actsByHand() {
+        int[][] due = {{6, 12, 4, 12}, {9, 18, 4, 18}, {6, -12, 4, -12}, {6, -14, 12, -14},
+            {9, 18, 4 - 6, 18 + 6}, {6, -14, 12, -14 ^ 5}, {12, 24, 4, 24}, {9, 18 + 3 - 6, 4 - 6, 18 + 3 - 6 + 6 - 1}};
+        for (int kind = 0; kind < 8; kind++) {
+            OpensLikeThat x = new OpensLikeThat();
+            x.body(0);
+            x.body(kind);
+            for (int act = 0; act < 4; act++) {
+                Check.due("kind " + kind + " act " + act, due[kind][act], x.act(1, act, 5));
+            }
+        }
+        OpensLikeThat x = new OpensLikeThat();
+        x.body(0);
+        x.body(0);
+        Check.due("it wraps", Integer.MIN_VALUE, x.act(1, 0, Integer.MAX_VALUE));
+        Check.due("it wraps", 2, x.act(1, 1, Integer.MIN_VALUE));
+        Check.due("it wraps", Integer.MIN_VALUE + 1, x.act(1, 2, Integer.MIN_VALUE));
+    }
+
+    /** "THE TRACE: numbers of the bodies that ran in the latest act(), as they began": 14 are the most that run. */
+    private static void traceOfTheLatest() {
+        OpensLikeThat x = new OpensLikeThat();
+        Check.due("no act yet", Beach.BAD, x.trace(0));
+        Check.due("none ran", 0, x.count(5));
+        x.body(7);
+        x.body(0);
+        x.act(0, 3, 5);
+        Check.due("14 ran", 14, x.count(5));
+        Check.due("the first", 81, x.trace(0));
+        Check.due("the last", 1, x.trace(13));
+        for (int i : new int[] {-1, 14, 15, 23, 24, 25, Integer.MIN_VALUE, Integer.MAX_VALUE}) {
+            Check.due("trace(" + i + ")", Beach.BAD, x.trace(i));
+        }
+        x.body(3);
+        x.keep(0, 0);
+        x.taken(0, 0);
+        Check.due("what is no act leaves it", 80, x.trace(2));
+        x.act(1, 0, 5);
+        Check.due("the latest alone", 1, x.count(5));
+        Check.due("the latest alone", 1, x.trace(0));
+        Check.due("none of the one ahead", Beach.BAD, x.trace(1));
+        Check.due("no such FRAME", 0, x.act(3, 0, 5));
+        Check.due("no TRACE then", Beach.BAD, x.trace(0));
+        Check.due("none ran", 0, x.count(5));
+        x.act(2, 2, 5);
+        Check.due("two ran", 2, x.count(5));
+        Check.due("no such ACT", 0, x.act(2, 4, 5));
+        Check.due("no TRACE then", Beach.BAD, x.trace(0));
+    }
+
+    /** "SHELVES 0 .. 5 each hold nothing (at first), a FRAME (a BODY), or a ROW". */
+    private static void whatAShelfHolds() {
+        OpensLikeThat x = new OpensLikeThat();
+        x.body(5);
+        for (int shelf = 0; shelf < 6; shelf++) {
+            Check.due("nothing at first", Beach.BARE, x.put(shelf, 0, 0));
+            Check.due("a FRAME", 1, x.keep(shelf, 0));
+            Check.due("its KIND", 5, x.taken(shelf, 3));
+            Check.due("no ROW", Beach.KIND, x.put(shelf, 0, 0));
+            Check.due("no element", Long.MIN_VALUE, x.element(shelf, 0));
+            Check.due("a ROW", 1, x.row(shelf, 3, 1));
+            Check.due("it is 0", 0, x.element(shelf, 0));
+            Check.due("no FRAME", Beach.KIND, x.taken(shelf, 0));
+            Check.due("put", 1, x.put(shelf, 0, 100 + shelf));
+        }
+        for (int shelf = 0; shelf < 6; shelf++) {
+            Check.due("each for itself", 100 + shelf, x.element(shelf, 0));
+        }
+        Check.due("nothing again", 1, x.keep(3, -1));
+        Check.due("nothing is there", Beach.BARE, x.put(3, 0, 0));
+        Check.due("nothing is there", Beach.BARE, x.taken(3, 0));
+        Check.due("no element", Long.MIN_VALUE, x.element(3, 0));
+        Check.due("nothing, twice", 1, x.keep(3, -1));
+        Check.due("the one beside it", 102, x.element(2, 0));
+        Check.due("the one beside it", 104, x.element(4, 0));
+    }
+
+    /** "of 0 .. 60 elements, 0 at first (false)". */
+    private static void rowOfSixty() {
+        for (int sort = 0; sort < 5; sort++) {
+            OpensLikeThat x = new OpensLikeThat();
+            x.row(5, sort, 60);
+            for (int i = 0; i < 60; i++) {
+                Check.due("0 at first", 0, x.element(5, i));
+                Check.due("put", 1, x.put(5, i, sort < 4 ? i + 1 : i % 2));
+            }
+            for (int i = 0; i < 60; i++) {
+                Check.due("element", sort < 4 ? i + 1 : i % 2, x.element(5, i));
+            }
+            Check.due("no place 60", Beach.PLACE, x.put(5, 60, 1));
+            Check.due("no place 60", Long.MIN_VALUE, x.element(5, 60));
+            Check.due("no place -1", Beach.PLACE, x.put(5, -1, 1));
+            Check.due("again", 1, x.row(5, sort, 60));
+            for (int i = 0; i < 60; i++) {
+                Check.due("0 at first again", 0, x.element(5, i));
+            }
+            for (int n : new int[] {0, 1, 2, 59}) {
+                Check.due("a ROW of " + n, 1, x.row(5, sort, n));
+                Check.due("the first behind it", Beach.PLACE, x.put(5, n, 1));
+                Check.due("the last of it", n == 0 ? Beach.PLACE : 1, x.put(5, n - 1, 1));
+                Check.due("the last of it", n == 0 ? Long.MIN_VALUE : 1, x.element(5, n - 1));
+            }
+        }
+    }
+
+    /** "as they all were before: n", of 60 elements. */
+    private static void shiftOfSixty() {
+        OpensLikeThat x = new OpensLikeThat();
+        x.row(0, 2, 60);
+        x.row(5, 2, 60);
+        for (int i = 0; i < 60; i++) {
+            x.put(0, i, i + 1);
+        }
+        Check.due("all 60", 60, x.shift(0, 0, 5, 0, 60));
+        Check.due("59 onwards", 59, x.shift(0, 0, 0, 1, 59));
+        Check.due("59 backwards", 59, x.shift(5, 1, 5, 0, 59));
+        for (int i = 0; i < 60; i++) {
+            Check.due("onwards", Math.max(1, i), x.element(0, i));
+            Check.due("backwards", Math.min(60, i + 2), x.element(5, i));
+        }
+        Check.due("none from the end to the end", 0, x.shift(0, 60, 5, 60, 0));
+        Check.due("one from the end", Beach.PLACE, x.shift(0, 60, 5, 0, 1));
+        Check.due("one to the end", Beach.PLACE, x.shift(0, 0, 5, 60, 1));
+        Check.due("none from behind the end", Beach.PLACE, x.shift(0, 61, 5, 0, 0));
+        Check.due("none to behind the end", Beach.PLACE, x.shift(0, 0, 5, 61, 0));
+        Check.due("the last to the first", 1, x.shift(0, 59, 5, 0, 1));
+        Check.due("the last to the first", 59, x.element(5, 0));
+        Check.due("the first to the last", 1, x.shift(0, 0, 5, 59, 1));
+        Check.due("the first to the last", 1, x.element(5, 59));
+        Check.due("61", Beach.PLACE, x.shift(0, 0, 5, 0, 61));
+        Check.due("all 60 from 1", Beach.PLACE, x.shift(0, 1, 5, 0, 60));
+        Check.due("all 60 to 1", Beach.PLACE, x.shift(0, 0, 5, 1, 60));
+        Check.due("places that wrap", Beach.PLACE, x.shift(0, Integer.MAX_VALUE, 5, 0, 2));
+        Check.due("places that wrap", Beach.PLACE, x.shift(0, 0, 5, Integer.MAX_VALUE, 2));
+        Check.due("below 0", Beach.PLACE, x.shift(0, 0, 5, 0, Integer.MIN_VALUE));
+        Check.due("below 0", Beach.PLACE, x.shift(0, Integer.MIN_VALUE, 5, 0, 1));
+    }
+
+    private static void shiftOfEachSort() {
+        long[] v = {-128, -32768, Integer.MIN_VALUE, Long.MIN_VALUE + 1, 1};
+        for (int from = 0; from < 5; from++) {
+            for (int to = 0; to < 5; to++) {
+                OpensLikeThat x = new OpensLikeThat();
+                x.row(0, from, 2);
+                x.row(1, to, 3);
+                x.put(0, 1, v[from]);
+                Check.due("sort " + from + " to " + to, from == to ? 2 : Beach.KIND, x.shift(0, 0, 1, 1, 2));
+                Check.due("what came", from == to ? v[from] : 0, x.element(1, 2));
+                Check.due("it stays where it was", v[from], x.element(0, 1));
+                Check.due("none of unlike sorts", from == to ? 0 : Beach.KIND, x.shift(0, 2, 1, 3, 0));
+            }
+        }
+    }
+
+    /** "What a SHELF holds, taken for a FRAME of KIND k (0 .. 7), or under it": 50 BODIES, the last of each KIND. */
+    private static void takenOfFifty() {
+        OpensLikeThat x = Beach.full();
+        boolean[][] under = new boolean[8][8];
+        int[] above = {-1, 0, 0, 2, 1, 3, 0, 4};
+        for (int kind = 0; kind < 8; kind++) {
+            for (int k = kind; k >= 0; k = above[k]) {
+                under[kind][k] = true;
+            }
+        }
+        for (int body = 42; body < 50; body++) {
+            x.keep(5, body);
+            for (int k = 0; k < 8; k++) {
+                Check.due("body " + body + " for " + k, under[body % 8][k] ? body % 8 : Beach.KIND, x.taken(5, k));
+            }
+        }
+        Check.due("no body 50", Beach.BAD, x.keep(5, 50));
+        Check.due("the 50th stays", 1, x.taken(5, 1));
+        for (int sort = 0; sort < 5; sort++) {
+            x.row(5, sort, 8);
+            for (int k = 0; k < 8; k++) {
+                Check.due("a ROW", Beach.KIND, x.taken(5, k));
+            }
+        }
+    }
+
+    /** Nothing, and as many as there can be. */
+    private static void countOfAll() {
+        OpensLikeThat none = new OpensLikeThat();
+        OpensLikeThat x = Beach.full();
+        for (int i = 0; i < 120; i++) {
+            x.feed(i);
+        }
+        for (int i = 0; i < 41; i++) {
+            x.mend(5, 4, i + 1);
+        }
+        x.act(7, 3, 0);
+        int[] due = {12, 6, 120, 40, 50, 14};
+        for (int what = 0; what < 6; what++) {
+            Check.due("none of " + what, 0, none.count(what));
+            Check.due("all of " + what, due[what], x.count(what));
+        }
+        x.undo();
+        Check.due("one UNDONE", 39, x.count(3));
+        x.law();
+        Check.due("THE TAPE is empty", 0, x.count(2));
+        x.act(7, 4, 0);
+        Check.due("no act", 0, x.count(5));
     }
 }

@@ -9,7 +9,16 @@ public final class WaysTest {
         backFrom();
         needed();
         oneWay();
-        wrongPs();
+        noMoves();
+        theTwelfth();
+        theSixth();
+        secondsOfAWay();
+        nextOfLikeOnes();
+        withoutShutting();
+        worstOfLikeOnes();
+        nearlyTenThousand();
+        oneStateOfMany();
+        eachIsNeeded();
         Check.end();
     }
 
@@ -233,19 +242,233 @@ public final class WaysTest {
         Check.due("each MOVE twice: all can", 54, y.oneWay(1));
     }
 
-    private static void wrongPs() {
-        int[] wrong = {-1, -100, 54, 99, 154, 300, 700, Integer.MIN_VALUE, Integer.MAX_VALUE};
-        for (int ps : wrong) {
-            OpensLikeThat x = Beach.wheels();
-            x.person(1, 1);
-            x.person(1, 1);
-            Check.due("way of ps " + ps, Beach.BAD, x.way(ps, 0, 0));
-            Check.due("next of ps " + ps, Beach.BAD, x.next(ps, 0));
-            Check.due("reach of ps " + ps, Beach.BAD, x.reach(ps, 0));
-            Check.due("backFrom of ps " + ps, Beach.BAD, x.backFrom(ps));
-            Check.due("needed of ps " + ps, Beach.BAD, x.needed(ps));
-            Check.due("show of ps " + ps, Beach.BAD, x.show(ps, 9, 0));
-            Check.due("the last that is right", 0, x.way(253, 53, 0));
+    /** "NOT: there, or none"; "itself, too"; "NOT: no MOVES". */
+    private static void noMoves() {
+        for (int s = 0; s < 54; s++) {
+            OpensLikeThat x = new OpensLikeThat();
+            int other = (s + 1) % 54;
+            boolean isChair = s == 36 || s == 38 || s == 40;
+            for (int what = 0; what < 2; what++) {
+                Check.due("way to itself", 0, x.way(s, s, what));
+                Check.due("way to another", Beach.NOT, x.way(s, other, what));
+                Check.due("way to a CHAIR", isChair ? 0 : Beach.NOT, x.way(s, 54, what));
+                Check.due("way to a SHUT one", s < 18 ? 0 : Beach.NOT, x.way(s, 55, what));
+            }
+            Check.due("next to itself", Beach.NOT, x.next(s, s));
+            Check.due("next to another", Beach.NOT, x.next(s, other));
+            Check.due("reach", 1, x.reach(s, 0));
+            Check.due("ways to itself", 1, x.ways(s, s));
+            Check.due("ways to another", 0, x.ways(s, other));
+            Check.due("backFrom", 1, x.backFrom(s));
+            Check.due("needed", isChair ? 0 : Beach.NOT, x.needed(s));
         }
+        OpensLikeThat x = new OpensLikeThat();
+        Check.due("worst: the least CHAIR", 36, x.worst(-1, 0));
+        Check.due("worst: no MOVES to it", 0, x.worst(-1, 1));
+        Check.due("worst: the others cannot", 51, x.worst(-1, 2));
+        Check.due("oneWay", Beach.NOT, x.oneWay(0));
+        Check.due("oneWay", Beach.NOT, x.oneWay(1));
+    }
+
+    /** 12 MOVES, of which the 12th alone leads anywhere. */
+    private static void theTwelfth() {
+        OpensLikeThat x = new OpensLikeThat();
+        for (int i = 0; i < 11; i++) {
+            x.move(32, 3);
+        }
+        x.move(2, 3);
+        Check.due("way", 1, x.way(0, 36, 0));
+        Check.due("way by seconds", 2, x.way(36, 0, 1));
+        Check.due("next", 11, x.next(0, 54));
+        Check.due("reach", 3, x.reach(0, 0));
+        Check.due("worst: FOLD 1 is two MOVES away", 18, x.worst(-1, 0));
+        Check.due("ways", 1, x.ways(0, 36));
+        Check.due("backFrom", 1, x.backFrom(0));
+        Check.due("needed", 2048, x.needed(0));
+        Check.due("oneWay", 11, x.oneWay(0));
+        Check.due("oneWay leaves CHAIRS", 3, x.oneWay(1));
+        OpensLikeThat y = Beach.twelveThatStay();
+        Check.due("12 that stay: way", Beach.NOT, y.way(0, 1, 0));
+        Check.due("12 that stay: reach", 1, y.reach(0, 0));
+        Check.due("12 that stay: ways to itself", 1, y.ways(0, 0));
+        Check.due("12 that stay: of like ones the least", 0, y.oneWay(0));
+    }
+
+    /** 6 PEOPLE, of whom each can fold one thing more than the one ahead. */
+    private static void theSixth() {
+        OpensLikeThat x = Beach.wheels();
+        for (int i = 0; i < 6; i++) {
+            x.person(i, 1);
+        }
+        Beach.law(x, "d>m");
+        int[] reached = {1, 3, 9, 27, 54, 54};
+        int[] cannot = {51, 45, 27, 27, 0, 0};
+        for (int one = 0; one < 6; one++) {
+            int ps = 100 * one + 100;
+            Check.due("reach of " + one, reached[one], x.reach(ps, 0));
+            Check.due("worst of " + one, cannot[one], x.worst(one, 2));
+            Check.due("way of " + one, one >= 1 ? 2 : Beach.NOT, x.way(ps, 36, 1));
+            Check.due("way over CLOTH of " + one, one >= 2 ? 3 : Beach.NOT, x.way(ps + 12, 54, 0));
+            Check.due("next of " + one, one >= 4 ? 3 : Beach.NOT, x.next(ps + 1, 0));
+            Check.due("needed of " + one, one >= 1 ? 1 : Beach.NOT, x.needed(ps));
+            Check.due("needed over SIDE of " + one, one >= 4 ? 9 : Beach.NOT, x.needed(ps + 1));
+        }
+        Check.due("nobody can all", 54, x.reach(0, 0));
+    }
+
+    /** "each MOVE takes 1" for nobody; "that take more than 0"; 99 are the most. */
+    private static void secondsOfAWay() {
+        OpensLikeThat x = Beach.wheels();
+        x.person(0, 1);
+        int[] law = {-1, 0, 1, 98, 99, 100, 9999};
+        int[] due = {0, 0, 1, 98, 99, 99, 99};
+        for (int i = 0; i < law.length; i++) {
+            Beach.law(x, String.valueOf(law[i]));
+            Check.due("seven MOVES by " + law[i], due[i] == 0 ? Beach.NOT : 7 * due[i], x.way(100, 53, 1));
+            Check.due("how many by " + law[i], due[i] == 0 ? Beach.NOT : 7, x.way(100, 53, 0));
+            Check.due("to a SHUT one by " + law[i], due[i] == 0 ? Beach.NOT : 2 * due[i], x.way(118, 55, 1));
+            Check.due("nobody's by " + law[i], 7, x.way(0, 53, 1));
+        }
+        // MOVE 0 takes 99, MOVE 4 (FOLD by 2) 50: one of them is 99, two of the other 100.
+        x.move(2, 3);
+        Beach.law(x, "m=0?99;50");
+        Check.due("99 is less than two times 50", 99, x.way(100, 18, 1));
+        Check.due("50 is less than two times 99", 50, x.way(100, 36, 1));
+        Check.due("its NEXT", 4, x.next(100, 36));
+        Beach.law(x, "m=0?99;49");
+        Check.due("two times 49 is less than 99", 98, x.way(100, 18, 1));
+        Check.due("but two MOVES", 1, x.way(100, 18, 0));
+        Check.due("NEXT goes by seconds", 4, x.next(100, 18));
+        // Seconds hang on FOLD and NOTCH of the STATE ahead: shut it is slow to turn the NOTCH.
+        Beach.law(x, "(m=2)*(3-f)*9+n+1");
+        Check.due("fold first, then the NOTCH", 1 + 10, x.way(100, 38, 1));
+        Check.due("NEXT folds", 4, x.next(100, 38));
+        Check.due("fold, then the NOTCH round", 3 + 12, x.way(122, 36, 1));
+        Check.due("NEXT folds by 1", 0, x.next(122, 36));
+    }
+
+    /** "of like ones the least". */
+    private static void nextOfLikeOnes() {
+        for (int first = 0; first < 12; first++) {
+            OpensLikeThat x = new OpensLikeThat();
+            for (int i = 0; i < 12; i++) {
+                x.move(i < first ? 32 : 1, 3);
+            }
+            Check.due("the first that folds", first, x.next(0, 54));
+            Check.due("the first that folds, to a SHUT one", first, x.next(36, 55));
+            Check.due("the first that folds, to a STATE", first, x.next(18, 36));
+        }
+        OpensLikeThat y = new OpensLikeThat();
+        y.move(31, 3);
+        y.move(11, 3);
+        y.move(1, 3);
+        Check.due("SIDE or FOLD: the least", 0, y.next(19, 54));
+        Check.due("SIDE or FOLD: the least, though CLOTH comes between", 0, y.next(1, 36));
+        Check.due("CLOTH or FOLD: the least", 1, y.next(30, 54));
+    }
+
+    /** "if no STATE on the way (and none reached) is SHUT (0: it is itself)". */
+    private static void withoutShutting() {
+        OpensLikeThat x = Beach.wheels();
+        for (int s = 0; s < 54; s++) {
+            Check.due("reach " + s, s < 18 ? 0 : s < 36 ? 36 : 18, x.reach(s, 2));
+        }
+        OpensLikeThat y = new OpensLikeThat();
+        y.move(1, 2);
+        y.move(1, 0);
+        Check.due("with SHUTTING", 3, y.reach(36, 0));
+        Check.due("FOLD 1 is behind a SHUT one", 1, y.reach(36, 2));
+        Check.due("from a SHUT one", 2, y.reach(0, 0));
+        Check.due("it is SHUT", 0, y.reach(0, 2));
+        Check.due("none to go", 1, y.reach(18, 2));
+        y.move(2, 2);
+        Check.due("past the SHUT one", 2, y.reach(36, 2));
+    }
+
+    /** "of those from which it can be; of like ones the least". */
+    private static void worstOfLikeOnes() {
+        OpensLikeThat x = new OpensLikeThat();
+        x.move(2, 0);
+        Check.due("FOLD 0, any NOTCH: the least", 0, x.worst(-1, 0));
+        Check.due("one MOVE", 1, x.worst(-1, 1));
+        Check.due("6 can", 48, x.worst(-1, 2));
+        x.mend(0, 0, 1);
+        Check.due("FOLD 1 goes to 0, which is no CHAIR", 36, x.worst(-1, 0));
+        Check.due("no MOVES", 0, x.worst(-1, 1));
+        x.move(31, 1);
+        Check.due("SIDE 1 alone", 37, x.worst(-1, 0));
+        Check.due("6 can", 48, x.worst(-1, 2));
+        x.move(21, 2);
+        Check.due("the NOTCH is of no use", 37, x.worst(-1, 0));
+        // SIDE is turned at NOTCH 0 alone: so the last of all STATES is the one farthest away.
+        OpensLikeThat y = new OpensLikeThat();
+        y.move(31, 3);
+        y.move(12, 3);
+        y.move(22, 3);
+        y.person(0, 1);
+        Beach.law(y, "m=0?n=0;1");
+        Check.due("the last STATE", 53, y.worst(0, 0));
+        Check.due("CLOTH and NOTCH twice, SIDE", 5, y.worst(0, 1));
+        Check.due("FOLD 0 and 1 cannot", 36, y.worst(0, 2));
+        x.person(0, 1);
+        Beach.law(x, "0");
+        Check.due("one that can nothing", 36, x.worst(0, 0));
+        Check.due("one that can nothing", 0, x.worst(0, 1));
+        Check.due("one that can nothing", 51, x.worst(0, 2));
+    }
+
+    /** "at most 9999 are counted: then 9999"; four beaches found by search. */
+    private static void nearlyTenThousand() {
+        waysOf(9998, 13, 28, 0,1,2,3, 3,1,0,3, 2,1,3,0, 3,1,3,3, 2,1,0,1, 1,1,2,3, 3,1,3,3, 1,1,3,2, 0,1,3,3, 3,1,1,0, 2,2,2,3, 2,1,3,3);
+        waysOf(9999, 39, 12, 1,1,0,2, 1,1,2,0, 3,1,1,3, 2,1,3,3, 2,1,3,3, 1,1,3,3, 0,2,3,3, 0,1,1,3, 3,1,3,2, 2,2,0,3, 2,1,3,2, 3,1,1,2);
+        waysOf(9999, 40, 13, 0,1,1,3, 0,1,2,2, 1,2,3,1, 2,1,2,0, 3,1,0,0, 0,1,3,3, 0,1,3,3, 0,1,3,3, 2,1,0,2, 0,1,3,3, 2,1,2,3, 3,1,1,3);
+        waysOf(9999, 32, 1, 1,1,2,2, 1,1,3,3, 2,1,3,3, 3,1,0,3, 1,1,2,3, 2,1,3,3, 2,1,1,3, 3,1,0,3, 2,1,1,3, 2,1,3,2, 3,1,0,1, 0,1,3,3);
+    }
+
+    private static void waysOf(int due, int from, int to, int... fours) {
+        OpensLikeThat x = new OpensLikeThat();
+        for (int i = 0; i < 12; i++) {
+            x.move(fours[4 * i] * 10 + fours[4 * i + 1], fours[4 * i + 2]);
+            x.mend(i, 1, fours[4 * i + 3]);
+        }
+        Check.due("ways " + from + " to " + to, due, x.ways(from, to));
+    }
+
+    /** "whether (1, 0) from each STATE that can be reached one can come back": of 54 one cannot. */
+    private static void oneStateOfMany() {
+        OpensLikeThat x = Beach.wheels();
+        for (int s = 0; s < 54; s++) {
+            Check.due("all hang together: " + s, 1, x.backFrom(s));
+        }
+        // SIDE turns one way only, to the first of all STATES or to the last.
+        int[] ahead = {1, 52};
+        for (int s : ahead) {
+            OpensLikeThat y = new OpensLikeThat();
+            y.move(31, s % 2);
+            Check.due("no way back to " + s, 0, y.backFrom(s));
+            Check.due("none to go", 1, y.backFrom(s == 1 ? 0 : 53));
+            y.move(31, 1 - s % 2);
+            Check.due("there and back", 1, y.backFrom(s));
+        }
+    }
+
+    /** "which (bits)": each of many MOVES is NEEDED, and none of like ones. */
+    private static void eachIsNeeded() {
+        OpensLikeThat x = new OpensLikeThat();
+        int[] wb = {1, 1, 11, 11, 31, 21, 21};
+        int[] from = {0, 1, 1, 2, 1, 0, 3};
+        for (int i = 0; i < wb.length; i++) {
+            x.move(wb[i], from[i]);
+        }
+        Check.due("from FOLD 0, CLOTH 1, SIDE 1", 31, x.needed(7));
+        Check.due("from FOLD 1, CLOTH 2, SIDE 0", 2 + 8, x.needed(30));
+        Check.due("from a CHAIR", 0, x.needed(40));
+        for (int i = 0; i < 5; i++) {
+            x.move(wb[i], from[i]);
+            Check.due("two of MOVE " + i, 31 & -(2 << i), x.needed(7));
+        }
+        Check.due("12 MOVES, none is NEEDED", 0, x.needed(7));
+        Check.due("12 MOVES: each by two leaves all", 54, x.oneWay(1));
+        Check.due("the least", 0, x.oneWay(0));
     }
 }
