@@ -20,6 +20,7 @@ public final class DeedTest {
         thirtyNineToFortyOne();
         behindAnUndo();
         eachNumberUndone();
+        deedsBetween();
         Check.end();
     }
 
@@ -536,6 +537,33 @@ public final class DeedTest {
         x.mend(0, 5, 9);
         Check.due("another behind all that were UNDONE", 1, x.count(3));
         Check.due("none may be done again", Beach.STATE, x.redo());
+    }
+
+    /** "deeds are none": no deed, and neither AN IMAGE nor what is laid back, is a change or ends what may be done again. */
+    private static void deedsBetween() {
+        OpensLikeThat x = Beach.wheels();
+        Beach.people(x, 1);
+        x.mend(0, 2, 5);
+        x.mend(0, 4, 8);
+        x.mend(0, 3, 9);
+        x.undo();
+        x.undo();
+        x.make(0, 1);
+        x.lay(20);
+        x.image();
+        x.back();
+        x.move(1, 3);
+        x.person(0, 1);
+        Check.due("one stands", 1, x.count(3));
+        Check.due("KNOWS by the deed", 2, x.of(0, 4));
+        Check.due("done again", 1, x.redo());
+        Check.due("KNOWS as told", 8, x.of(0, 4));
+        x.make(0, 2);
+        Check.due("KNOWS by a deed, too", 12, x.of(0, 4));
+        Check.due("undone", 1, x.undo());
+        Check.due("KNOWS as ahead of the change", 0, x.of(0, 4));
+        Check.due("done again", 1, x.redo());
+        Check.due("KNOWS as told, not by the deed", 8, x.of(0, 4));
     }
 
     /** "all numbers of mend()": undone and done again they count as if they were told. */

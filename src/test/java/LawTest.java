@@ -181,6 +181,13 @@ public final class LawTest {
         String least = "2048*2048*512";
         gives(least, 0);
         gives(least + "<0", 1);
+        gives(least + "<1", 1);
+        gives(least + ">1", 0);
+        gives("1<" + least, 0);
+        gives("1>" + least, 1);
+        gives(least + "-1>" + least, 1);
+        gives(least + "<" + least + "-1", 1);
+        gives(least + "=0", 0);
         gives(least + "-1", 99);
         gives(least + "-1>0", 1);
         gives(least + "-1+1<0", 1);
@@ -305,6 +312,7 @@ public final class LawTest {
         String last = again("0?1;", 29) + "-5+9";
         behind(new String[] {minus, not, "7", none}, 58, 60, 7, 0);
         behind(new String[] {last, "0?1", minus}, 4, 0, 58);
+        behind(new String[] {"0?1;5", "0?2;9", "0?7", "0?3", "6"}, 5, 9, 0, 0, 6);
         behind(new String[] {none, "0;7", minus, "0?7", "0?1;8"}, 0, 0, 58, 0, 8);
     }
 

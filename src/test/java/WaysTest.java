@@ -314,6 +314,14 @@ public final class WaysTest {
             Check.due("needed over SIDE of " + one, one >= 4 ? 9 : Beach.NOT, x.needed(ps + 1));
         }
         Check.due("nobody can all", 54, x.reach(0, 0));
+        Check.due("WAYS are nobody's", 630, x.ways(0, 53));
+        Check.due("ONE WAY is nobody's", 0, x.oneWay(0));
+        Check.due("54 by 3, FOLD 2 alone", 18, x.oneWay(1));
+        Beach.law(x, "0");
+        Check.due("WAYS, though none can", 630, x.ways(0, 53));
+        Check.due("ONE WAY, though none can", 18, x.oneWay(1));
+        Check.due("nobody comes back", 1, x.backFrom(0));
+        Check.due("one that cannot leave does, too", 1, x.backFrom(600));
     }
 
     /** "each MOVE takes 1" for nobody; "that take more than 0"; 99 are the most. */
@@ -463,6 +471,11 @@ public final class WaysTest {
         Check.due("from FOLD 0, CLOTH 1, SIDE 1", 31, x.needed(7));
         Check.due("from FOLD 1, CLOTH 2, SIDE 0", 2 + 8, x.needed(30));
         Check.due("from a CHAIR", 0, x.needed(40));
+        OpensLikeThat y = new OpensLikeThat();
+        y.move(2, 0);
+        y.move(1, 3);
+        Check.due("a shorter way is not NEEDED, if there is a longer one", 0, y.needed(0));
+        Check.due("but it is from FOLD 1", 2, y.needed(18));
         for (int i = 0; i < 5; i++) {
             x.move(wb[i], from[i]);
             Check.due("two of MOVE " + i, 31 & -(2 << i), x.needed(7));
